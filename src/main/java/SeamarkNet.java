@@ -695,17 +695,19 @@ public final class SeamarkNet {
       return kind == LOST || kind == NO_WAY || kind == TOO_WIDE;
     }
 
-    void fill(Packet other) {
+    /** Becomes the PIECE of the other one that begins so far behind its begin. */
+    void cutFrom(Packet other, int ahead, int most) {
+      int left = other.size - ahead;
       kind = other.kind;
       from = other.from;
       to = other.to;
-      size = other.size;
+      size = Math.min(most, left);
       ttl = other.ttl;
       number = other.number;
       about = other.about;
-      place = other.place;
+      place = other.place + ahead;
       isWhole = other.isWhole;
-      hasMore = other.hasMore;
+      hasMore = other.hasMore || left > most;
       inside = other.inside;
     }
   }
@@ -825,7 +827,6 @@ public final class SeamarkNet {
     }
 
     void reuse(Frame frame) {
-      frame.packet = null;
       frame.next = spare;
       spare = frame;
     }
@@ -1224,12 +1225,8 @@ public final class SeamarkNet {
         return;
       }
       for (int ahead = 0; ahead < packet.size; ahead += most) {
-        int left = packet.size - ahead;
         Packet piece = pool.take();
-        piece.fill(packet);
-        piece.place = packet.place + ahead;
-        piece.size = Math.min(most, left);
-        piece.hasMore = packet.hasMore || left > most;
+        piece.cutFrom(packet, ahead, most);
         goToHop(host, port, piece);
       }
     }

@@ -43,53 +43,8 @@ public final class PromiseTest {
 
   // ---- nets
 
-  /** One CABLE of the WIDTH, MACHINES 0 to 2 with the ADDRESSES 33, 34, 35, no FORWARDING. */
-  private static SeamarkNet street(int width) {
-    SeamarkNet net = new SeamarkNet();
-    net.addCable(width);
-    for (int machine = 0; machine < 3; machine++) {
-      net.addMachine(false);
-      net.addPort(machine, 0, 33 + machine, 3);
-    }
-    return net;
-  }
-
-  /** 0 (17) - CABLE 0 - (18) 1 (35) - CABLE 1 - (34) 2 (51) - CABLE 2 - (49) 3. */
-  private static SeamarkNet line(int width0, int width1, int width2) {
-    SeamarkNet net = new SeamarkNet();
-    net.addCable(width0);
-    net.addCable(width1);
-    net.addCable(width2);
-    net.addMachine(false);
-    net.addMachine(true);
-    net.addMachine(true);
-    net.addMachine(false);
-    net.addPort(0, 0, 17, 4);
-    net.addPort(1, 0, 18, 4);
-    net.addPort(1, 1, 35, 4);
-    net.addPort(2, 1, 34, 4);
-    net.addPort(2, 2, 51, 4);
-    net.addPort(3, 2, 49, 4);
-    net.addRoute(0, 0, 0, 18);
-    net.addRoute(1, 48, 4, 34);
-    net.addRoute(2, 16, 4, 35);
-    net.addRoute(3, 0, 0, 51);
-    return net;
-  }
-
-  /** The line, with a TUNNEL between 0 (FAR 49) and 3 (FAR 17) by which 128 to 255 are reached. */
-  private static SeamarkNet tunnelled(int width) {
-    SeamarkNet net = line(width, width, width);
-    net.addCable(200);
-    net.addPort(3, 3, 130, 8);
-    net.addTunnel(0, 49);
-    net.addRoute(0, 128, 1, -1);
-    net.addTunnel(3, 17);
-    return net;
-  }
-
   private static SeamarkNet sample() {
-    SeamarkNet net = street(40);
+    SeamarkNet net = Nets.street(40);
     net.send(0, 34, true, 90, 5, false);
     net.step(4);
     return net;
@@ -169,7 +124,7 @@ public final class PromiseTest {
     same("setWidth", net.setWidth(0, 12), 40);
     same("setWidth again", net.setWidth(0, 200), 12);
     same("setWidth at last", net.setWidth(0, 200), 200);
-    SeamarkNet street = street(40);
+    SeamarkNet street = Nets.street(40);
     street.send(0, 34, false, 36, 5, true);
     street.send(0, 34, false, 40, 5, false);
     street.setWidth(0, 12);
@@ -255,7 +210,7 @@ public final class PromiseTest {
   }
 
   private void promise8() {
-    SeamarkNet net = street(40);
+    SeamarkNet net = Nets.street(40);
     check.bounds("no MACHINE", () -> net.dropRoute(3));
     check.bounds("nor this", () -> net.dropRoute(-1));
     check.state("no ROUTE", () -> net.dropRoute(0));
@@ -273,7 +228,7 @@ public final class PromiseTest {
   }
 
   private void promise9() {
-    SeamarkNet net = line(100, 100, 100);
+    SeamarkNet net = Nets.line(100, 100, 100);
     check.bounds("no MACHINE", () -> net.setForwarding(4, true));
     check.bounds("nor this", () -> net.setForwarding(-1, true));
     same("it did", net.setForwarding(1, false), true);
@@ -288,7 +243,7 @@ public final class PromiseTest {
   }
 
   private void promise10() {
-    SeamarkNet net = street(40);
+    SeamarkNet net = Nets.street(40);
     keeps("send", net, () -> {
       check.bounds("no MACHINE", () -> net.send(3, 300, true, 0, 1, false));
       check.bounds("nor this", () -> net.send(-1, 34, true, 0, 1, false));
@@ -322,7 +277,7 @@ public final class PromiseTest {
   }
 
   private void sendInPieces() {
-    SeamarkNet net = street(30);
+    SeamarkNet net = Nets.street(30);
     net.send(0, 34, false, 1, 5, false);
     net.step(2);
     net.send(0, 34, false, 60, 5, false);
@@ -330,7 +285,7 @@ public final class PromiseTest {
     same("PIECE at 0", frameOf(net, 1), "0 0 4 0 1 24 0 0");
     same("PIECE at 24", frameOf(net, 2), "0 0 4 0 1 24 24 0");
     same("PIECE at 48", frameOf(net, 3), "0 0 4 0 1 12 48 0");
-    SeamarkNet split = line(80, 24, 120);
+    SeamarkNet split = Nets.line(80, 24, 120);
     split.send(0, 49, false, 100, 9, false);
     split.step(60);
     noted("split twice, put together once", split, 3, 0, 0, 17, 100, 7, 0, 0);
@@ -340,7 +295,7 @@ public final class PromiseTest {
   }
 
   private void sendByTunnel() {
-    SeamarkNet net = tunnelled(100);
+    SeamarkNet net = Nets.tunnelled(100);
     same("ASK", net.send(0, 130, true, 20, 1, true), 0);
     same("in a WRAPPED one", net.packets(), 2);
     same("the QUESTION", frameOf(net, 0), "0 0 -1 1 18 0 0 -1");
@@ -349,30 +304,39 @@ public final class PromiseTest {
     net.step(60);
     noted("its ANSWER", net, 0, 0, 2, 130, 20, 30, 2, 0);
     same("all is well", net.gone(), 0);
-    SeamarkNet narrow = tunnelled(12);
+    SeamarkNet narrow = Nets.tunnelled(12);
     narrow.send(0, 130, false, 8, 1, true);
     narrow.step(60);
     noted("WHOLE in a WRAPPED one in PIECES", narrow, 3, 0, 0, 17, 8, 1, 0, 0);
-    SeamarkNet other = tunnelled(100);
+    SeamarkNet other = Nets.tunnelled(100);
     other.addTunnel(0, 51);
     other.addRoute(0, 128, 2, -2);
     other.send(0, 130, false, 8, 5, true);
     other.step(60);
     same("2 has no TUNNEL: it is GONE", other.gone(), 1);
     same("nothing is told of it", other.noted(0), 0);
-    SeamarkNet own = tunnelled(100);
+    for (int width = 12; width <= 32; width += 4) {
+      SeamarkNet both = Nets.tunnelInTunnel(width);
+      both.send(0, 200, true, 7, 1, true);
+      same("two more come with it", both.packets(), 2);
+      both.step(60);
+      same("a third one, and the ANSWER", both.packets(), width == 12 ? 5 : 4);
+      noted("unwrapped twice", both, 0, 0, 2, 200, 7, 30, both.packets() - 1, 0);
+      same("nothing is GONE", both.gone(), 0);
+    }
+    SeamarkNet own = Nets.tunnelled(100);
     own.addTunnel(0, 17);
     own.addRoute(0, 192, 2, -2);
     same("FAR is its own", own.send(0, 200, false, 8, 5, true), 0);
     noted("NO WAY", own, 0, 0, 4, 17, 0, 32, 1, 0);
-    SeamarkNet twice = tunnelled(100);
+    SeamarkNet twice = Nets.tunnelled(100);
     twice.addTunnel(0, 140);
     twice.addRoute(0, 192, 2, -2);
     same("FAR by a TUNNEL: no FROM", twice.send(0, 200, false, 8, 5, true), -1);
   }
 
   private void promise11() {
-    SeamarkNet net = street(40);
+    SeamarkNet net = Nets.street(40);
     check.argument("step(0)", () -> net.step(0));
     check.argument("step(-1)", () -> net.step(-1));
     check.argument("step(61)", () -> net.step(61));
@@ -389,7 +353,7 @@ public final class PromiseTest {
     same("STEPS are as many as FRAMES", net.step(60), 0);
     same("steps()", net.steps(), 6);
     noted("the ANSWER", net, 0, 0, 2, 34, 60, 32, 1, 0);
-    SeamarkNet many = street(12);
+    SeamarkNet many = Nets.street(12);
     many.send(0, 34, false, 1, 5, false);
     many.step(3);
     many.send(0, 34, false, 400, 5, false);
@@ -403,7 +367,7 @@ public final class PromiseTest {
   }
 
   private void stepTtl() {
-    SeamarkNet net = line(100, 100, 100);
+    SeamarkNet net = Nets.line(100, 100, 100);
     net.send(0, 49, false, 5, 2, false);
     net.step(60);
     noted("LOST at 2", net, 0, 0, 3, 34, 0, 31, 1, 0);
@@ -417,7 +381,7 @@ public final class PromiseTest {
   }
 
   private void stepComplaints() {
-    SeamarkNet net = line(100, 100, 24);
+    SeamarkNet net = Nets.line(100, 100, 24);
     net.send(0, 49, false, 20, 9, true);
     net.send(0, 49, false, 21, 9, true);
     net.step(60);
@@ -426,13 +390,13 @@ public final class PromiseTest {
     net.send(0, 90, false, 5, 9, true);
     net.step(60);
     noted("NO WAY at 1", net, 0, 0, 4, 18, 0, 32, 4, 0);
-    SeamarkNet pieces = line(40, 100, 100);
+    SeamarkNet pieces = Nets.line(40, 100, 100);
     pieces.send(0, 90, false, 60, 9, false);
     pieces.step(60);
     same("both PIECES are GONE", pieces.gone(), 2);
     same("one COMPLAINT, of the first", pieces.noted(0), 1);
     same("no other PACKET", pieces.packets(), 2);
-    SeamarkNet back = line(100, 100, 100);
+    SeamarkNet back = Nets.line(100, 100, 100);
     back.dropRoute(2);
     back.send(0, 49, false, 5, 3, false);
     back.setForwarding(3, true);
@@ -442,8 +406,16 @@ public final class PromiseTest {
     same("a COMPLAINT that has no WAY does not come to be", back.noted(0), 0);
   }
 
-  /** 0 has PORTS on both CABLES; the MARK it KNOWS is of a PORT on another CABLE in the end. */
+  /** 1 has PORTS on both CABLES; the MARK it KNOWS is of a PORT on another CABLE in the end. */
   private void stepOtherCable() {
+    SeamarkNet net = otherCable();
+    same("on CABLE 0, to a PORT on CABLE 1", frameOf(net, 0), "0 6 1 0 1 3 0 0");
+    net.step(1);
+    same("it comes", net.noted(0), 2);
+    same("CABLE 0 carried it", net.carried(0), 1);
+  }
+
+  private SeamarkNet otherCable() {
     SeamarkNet net = new SeamarkNet();
     net.addCable(100);
     net.addCable(100);
@@ -458,15 +430,13 @@ public final class PromiseTest {
     net.step(60);
     same("1 KNOWS", net.knows(1, 65), 1);
     net.addPort(1, 0, 65 + 2, 6);
+    net.addRoute(0, 65 + 2, 8, 66);
     net.send(1, 65, false, 3, 9, false);
-    same("on CABLE 0, to a PORT on CABLE 1", frameOf(net, 0), "0 6 1 0 1 3 0 0");
-    net.step(1);
-    same("it comes", net.noted(0), 2);
-    same("CABLE 0 carried it", net.carried(0), 1);
+    return net;
   }
 
   private void stepOverflow() {
-    SeamarkNet net = street(12);
+    SeamarkNet net = Nets.street(12);
     net.send(0, 40, false, 8, 5, false);
     net.send(0, 34, false, 48, 5, false);
     same("six WAIT", net.waiting(0), 6);
@@ -477,19 +447,11 @@ public final class PromiseTest {
     net.step(60);
     same("PIECES without the first one", net.heaps(1), 1);
     same("40 WAITS on", net.waiting(0), 1);
-    for (int more = 0; more < 3; more++) {
-      same("no heap too many", net.heaps(1), more + 1);
-      SeamarkNet at = net;
-      at.forget(0);
-      at.send(0, 34, false, 50, 5, false);
-      at.step(60);
-    }
-    same("three heaps at most", net.heaps(1), 3);
   }
 
   /** 0 learns of 34 by its QUESTION; what WAITED for 34 waits on for the REPLY. */
   private void stepWaitsOn() {
-    SeamarkNet net = street(100);
+    SeamarkNet net = Nets.street(100);
     net.send(0, 34, false, 1, 5, false);
     net.send(1, 33, false, 2, 5, false);
     net.step(1);
@@ -504,7 +466,7 @@ public final class PromiseTest {
   }
 
   private void promise12() {
-    SeamarkNet net = street(40);
+    SeamarkNet net = Nets.street(40);
     check.bounds("no MACHINE", () -> net.forget(3));
     check.bounds("nor this", () -> net.forget(-1));
     same("nothing", net.forget(0), 0);
@@ -520,7 +482,7 @@ public final class PromiseTest {
   }
 
   private void promise13() {
-    SeamarkNet net = street(20);
+    SeamarkNet net = Nets.street(20);
     check.bounds("no MACHINE", () -> net.giveUp(3));
     check.bounds("nor this", () -> net.giveUp(-1));
     same("nothing WAITS", net.giveUp(0), 0);
@@ -532,7 +494,7 @@ public final class PromiseTest {
     same("two COMPLAINTS", net.noted(0), 2);
     noted("NO WAY, ABOUT 1", net, 0, 0, 4, 33, 0, 32, 3, 1);
     noted("in order", net, 0, 1, 4, 33, 0, 32, 2, 1);
-    SeamarkNet line = line(100, 100, 100);
+    SeamarkNet line = Nets.line(100, 100, 100);
     line.addRoute(1, 56, 5, 36);
     line.send(0, 49, false, 5, 9, false);
     line.send(0, 57, false, 5, 9, false);
@@ -546,7 +508,7 @@ public final class PromiseTest {
   }
 
   private void promise14to18() {
-    SeamarkNet net = street(40);
+    SeamarkNet net = Nets.street(40);
     same("machines()", net.machines(), 3);
     net.addMachine(true);
     same("machines() then", net.machines(), 4);
@@ -570,7 +532,7 @@ public final class PromiseTest {
 
   /** A heap counts once, however many PIECES it has. */
   private void goneHeap() {
-    SeamarkNet net = street(20);
+    SeamarkNet net = Nets.street(20);
     net.send(0, 34, false, 1, 5, false);
     net.step(60);
     for (int packet = 0; packet < 4; packet++) {
@@ -584,7 +546,7 @@ public final class PromiseTest {
   }
 
   private void promise19() {
-    SeamarkNet net = street(40);
+    SeamarkNet net = Nets.street(40);
     check.bounds("no FRAME", () -> net.frame(0, 0));
     net.send(0, 34, false, 60, 5, false);
     check.bounds("FRAME -1", () -> net.frame(-1, 0));
@@ -615,7 +577,7 @@ public final class PromiseTest {
   }
 
   private void promise21() {
-    SeamarkNet net = street(40);
+    SeamarkNet net = Nets.street(40);
     check.bounds("no MACHINE", () -> net.waiting(3));
     check.bounds("nor this", () -> net.waiting(-1));
     same("none", net.waiting(0), 0);
@@ -629,7 +591,7 @@ public final class PromiseTest {
   }
 
   private void promise22() {
-    SeamarkNet net = street(40);
+    SeamarkNet net = Nets.street(40);
     check.bounds("no MACHINE", () -> net.heaps(3));
     check.bounds("nor this", () -> net.heaps(-1));
     net.send(0, 34, false, 90, 5, false);
@@ -645,10 +607,47 @@ public final class PromiseTest {
     net.step(1);
     same("whole, too", net.heaps(1), 0);
     same("both are NOTED", net.noted(1), 2);
+    fourthHeap();
+  }
+
+  /** Two heaps that stay, one by way of 3 that is not whole yet, and a fourth one within it. */
+  private void fourthHeap() {
+    SeamarkNet net = Nets.street(20);
+    net.addMachine(true);
+    net.addPort(3, 0, 36, 3);
+    net.addRoute(2, 34, 8, 36);
+    net.send(2, 34, false, 1, 5, false);
+    net.step(60);
+    for (int packet = 0; packet < 2; packet++) {
+      net.forget(0);
+      net.send(0, 34, false, 112, 5, false);
+      net.step(60);
+    }
+    same("two heaps", net.heaps(1), 2);
+    int gone = net.gone();
+    net.send(2, 34, false, 20, 5, false);
+    net.step(1);
+    net.send(0, 34, false, 30, 5, false);
+    net.step(2);
+    same("the third one begins", net.heaps(1), 3);
+    same("none is GONE", net.gone(), gone);
+    net.step(1);
+    same("a fourth one begins", net.heaps(1), 3);
+    same("the first one is GONE", net.gone(), gone + 1);
+    net.step(1);
+    same("it is whole", net.heaps(1), 2);
+    noted("that of 30", net, 1, 0, 0, 33, 30, 5, 4, 0);
+    net.step(1);
+    same("the third one is whole", net.heaps(1), 1);
+    noted("that of 20", net, 1, 0, 0, 35, 20, 4, 3, 0);
+    net.forget(0);
+    net.send(0, 34, false, 112, 5, false);
+    net.step(60);
+    same("the second one is KEPT on", net.heaps(1), 2);
   }
 
   private void promise23() {
-    SeamarkNet net = street(40);
+    SeamarkNet net = Nets.street(40);
     check.bounds("no MACHINE", () -> net.noted(3));
     check.bounds("nor this", () -> net.noted(-1));
     for (int count = 0; count < 13; count++) {
@@ -663,7 +662,7 @@ public final class PromiseTest {
   }
 
   private void promise24() {
-    SeamarkNet net = street(40);
+    SeamarkNet net = Nets.street(40);
     check.bounds("none", () -> net.note(0, 0, 0));
     for (int count = 0; count < 13; count++) {
       check.bounds("not so many", () -> net.note(0, net.noted(0), 0));
@@ -724,7 +723,7 @@ public final class PromiseTest {
   }
 
   private void promise26() {
-    SeamarkNet net = line(100, 100, 100);
+    SeamarkNet net = Nets.line(100, 100, 100);
     check.bounds("no CABLE", () -> net.carried(3));
     check.bounds("nor this", () -> net.carried(-1));
     net.send(0, 49, false, 5, 9, false);
@@ -739,7 +738,7 @@ public final class PromiseTest {
   }
 
   private void promise27() {
-    SeamarkNet net = street(40);
+    SeamarkNet net = Nets.street(40);
     same("none", net.use(), 0.0);
     net.send(0, 34, false, 1, 5, false);
     net.step(2);
@@ -752,7 +751,7 @@ public final class PromiseTest {
   }
 
   private void promise28() {
-    SeamarkNet net = line(100, 100, 100);
+    SeamarkNet net = Nets.line(100, 100, 100);
     check.bounds("no MACHINE", () -> net.whoTells(4, 49, 1));
     check.bounds("MACHINE ahead of TO", () -> net.whoTells(-1, 256, 0));
     check.argument("TO -1", () -> net.whoTells(0, -1, 1));
@@ -772,14 +771,46 @@ public final class PromiseTest {
     });
     net.setForwarding(2, false);
     same("2 tells nothing", net.whoTells(0, 49, 40), -1);
-    SeamarkNet tunnel = tunnelled(100);
+    SeamarkNet tunnel = Nets.tunnelled(100);
     same("by a TUNNEL", tunnel.whoTells(0, 130, 1), 130);
     tunnel.setWidth(2, 12);
     same("in PIECES", tunnel.whoTells(0, 130, 1), 130);
+    knowsAsItIsNow();
+    startsWithoutFrames();
+  }
+
+  /** Whether 1 has an ANSWER of 65 hangs on whether it KNOWS its MARK. */
+  private void knowsAsItIsNow() {
+    SeamarkNet net = otherCable();
+    for (int turn = 0; turn < 2; turn++) {
+      same("by what it KNOWS: whoTells", net.whoTells(1, 65, 9), 65);
+      same("by what it KNOWS: hops", net.hops(1, 65), 1);
+      same("by what it KNOWS: widest", net.widest(1, 65), 96);
+    }
+    net.forget(1);
+    same("it KNOWS no more: hops", net.hops(1, 65), -1);
+    same("it KNOWS no more: widest", net.widest(1, 65), -1);
+    same("it KNOWS no more: whoTells", net.whoTells(1, 65, 9), -1);
+  }
+
+  /** Trials that end with many FRAMES leave nothing for the next ones. */
+  private void startsWithoutFrames() {
+    SeamarkNet net = Nets.loop(12, 12);
+    for (int turn = 0; turn < 2; turn++) {
+      same("round and round: hops", net.hops(0, 200), -1);
+      same("then that of 1: whoTells", net.whoTells(0, 2, 1), 2);
+      same("round and round: whoTells", net.whoTells(0, 200, 40), -1);
+      same("then that of 1: hops", net.hops(0, 2), 1);
+      same("round and round: widest", net.widest(0, 200), -1);
+      same("then that of 1: widest", net.widest(0, 2), 8);
+    }
+    net.send(0, 200, true, 8, 40, false);
+    net.step(60);
+    same("it goes on and on", net.frames() > 0, true);
   }
 
   private void promise29() {
-    SeamarkNet net = line(100, 100, 100);
+    SeamarkNet net = Nets.line(100, 100, 100);
     check.bounds("no MACHINE", () -> net.hops(4, 49));
     check.bounds("MACHINE ahead of TO", () -> net.hops(-1, 256));
     check.argument("TO -1", () -> net.hops(0, -1));
@@ -795,7 +826,7 @@ public final class PromiseTest {
     });
     net.setForwarding(2, false);
     same("no ANSWER", net.hops(0, 49), -1);
-    SeamarkNet round = street(100);
+    SeamarkNet round = Nets.street(100);
     round.addRoute(0, 128, 1, 34);
     round.addRoute(1, 128, 1, 33);
     round.setForwarding(0, true);
@@ -805,7 +836,7 @@ public final class PromiseTest {
   }
 
   private void promise30() {
-    SeamarkNet net = line(180, 90, 120);
+    SeamarkNet net = Nets.line(180, 90, 120);
     check.bounds("no MACHINE", () -> net.widest(4, 49));
     check.bounds("MACHINE ahead of TO", () -> net.widest(-1, 256));
     check.argument("TO -1", () -> net.widest(0, -1));
@@ -819,15 +850,73 @@ public final class PromiseTest {
       same("to none", net.widest(0, 20), -1);
       same("NO WAY", net.widest(0, 90), -1);
     });
-    SeamarkNet wide = line(200, 200, 200);
+    SeamarkNet wide = Nets.line(200, 200, 200);
     same("196 is the first one", wide.widest(0, 49), 196);
     wide.setWidth(2, 12);
     same("8 is the least", wide.widest(0, 49), 8);
-    SeamarkNet tunnel = tunnelled(40);
+    SeamarkNet tunnel = Nets.tunnelled(70);
     same("a TUNNEL takes all", tunnel.widest(0, 130), 196);
+    tunnel.setWidth(0, 12);
+    same("but more than 6 PIECES are too many to WAIT", tunnel.widest(0, 130), -1);
+    same("200 STEPS are enough", chainOf(12, 12, 12, 12).widest(0, 130), 196);
+    same("201 are too many", chainOf(16, 12, 16, 48).widest(0, 130), -1);
+    knowsFromTheOneAhead();
     same("six are enough", funnel(5).widest(0, 32 * 5 + 2), 196 - 5 * 10);
     same("small ones come through the funnel", funnel(6).hops(0, 32 * 6 + 2), 7);
     same("behind 6 of them", funnel(6).widest(0, 32 * 6 + 2), -1);
+  }
+
+  /** 0 to 4 on four CABLES in a row, with a TUNNEL from 0 to 4 for 128 on; all HOPS are KNOWN. */
+  private SeamarkNet chainOf(int... widths) {
+    SeamarkNet net = new SeamarkNet();
+    for (int width : widths) {
+      net.addCable(width);
+    }
+    net.addCable(200);
+    for (int machine = 0; machine < 5; machine++) {
+      net.addMachine(true);
+      if (machine > 0) {
+        net.addPort(machine, machine - 1, 16 * (machine - 1) + 2, 4);
+        net.addRoute(machine, 1, 8, 16 * (machine - 1) + 1);
+      }
+      if (machine < 4) {
+        net.addPort(machine, machine, 16 * machine + 1, 4);
+        net.addRoute(machine, 50, 8, 16 * machine + 2);
+      }
+    }
+    net.addPort(4, 4, 130, 8);
+    net.addTunnel(0, 50);
+    net.addRoute(0, 128, 1, -1);
+    net.addTunnel(4, 1);
+    net.send(0, 50, true, 1, 32, false);
+    net.step(60);
+    same("the chain is laid", net.noted(0), 1);
+    return net;
+  }
+
+  /** 1 sends all to 0 by way of 3, on a narrow CABLE; it KNOWS 3 by the first COMPLAINT only. */
+  private void knowsFromTheOneAhead() {
+    SeamarkNet net = new SeamarkNet();
+    net.addCable(200);
+    net.addCable(100);
+    net.addCable(12);
+    for (int machine = 0; machine < 4; machine++) {
+      net.addMachine(true);
+    }
+    net.addPort(0, 0, 1, 4);
+    net.addPort(1, 0, 2, 4);
+    net.addPort(1, 1, 17, 4);
+    net.addPort(2, 1, 18, 4);
+    net.addPort(1, 2, 33, 4);
+    net.addPort(3, 2, 34, 4);
+    net.addPort(0, 2, 35, 4);
+    net.addRoute(0, 18, 8, 2);
+    net.addRoute(2, 1, 8, 17);
+    net.addRoute(1, 1, 8, 34);
+    net.addRoute(3, 1, 8, 35);
+    same("the second one has an ANSWER in 12 PIECES", net.widest(0, 18), 96);
+    net.setWidth(0, 100);
+    same("the first one has not", net.widest(0, 18), -1);
   }
 
   /** 0 on a CABLE of 200, then so many CABLES, each by 10 narrower, up to the last MACHINE. */
@@ -859,7 +948,7 @@ public final class PromiseTest {
 
   private void promise31() {
     same("new digest()", new SeamarkNet().digest(), chain(58062L, 0, 0, 0, 0, 0));
-    SeamarkNet net = street(40);
+    SeamarkNet net = Nets.street(40);
     net.send(0, 33, false, 3, 2, false);
     net.send(0, 33, true, 4, 2, false);
     net.send(0, 33, false, 5, 2, false);
