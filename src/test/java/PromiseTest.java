@@ -858,6 +858,12 @@ public final class PromiseTest {
     same("a TUNNEL takes all", tunnel.widest(0, 130), 196);
     tunnel.setWidth(0, 12);
     same("but more than 6 PIECES are too many to WAIT", tunnel.widest(0, 130), -1);
+    SeamarkNet narrower = Nets.tunnelled(100);
+    narrower.setWidth(1, 60);
+    narrower.addRoute(1, 49, 8, 200);
+    same("a WHOLE COMPLAINT is told", narrower.whoTells(0, 130, 1), 18);
+    narrower.dropRoute(1);
+    same("the PIECES of the next trial are split again", narrower.widest(0, 130), 196);
     same("200 STEPS are enough", chainOf(12, 12, 12, 12).widest(0, 130), 196);
     same("201 are too many", chainOf(16, 12, 16, 48).widest(0, 130), -1);
     knowsFromTheOneAhead();
