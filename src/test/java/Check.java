@@ -49,6 +49,10 @@ final class Check {
     same(what, answerOf(call), "throws java.lang.IllegalStateException");
   }
 
+  int made() {
+    return made;
+  }
+
   boolean isWrong() {
     return wrong > 0;
   }

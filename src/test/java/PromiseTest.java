@@ -416,21 +416,8 @@ public final class PromiseTest {
   }
 
   private SeamarkNet otherCable() {
-    SeamarkNet net = new SeamarkNet();
-    net.addCable(100);
-    net.addCable(100);
-    net.addMachine(true);
-    net.addMachine(true);
-    net.addPort(0, 0, 1, 8);
-    net.addPort(1, 0, 2, 8);
-    net.addRoute(1, 0, 0, 1);
-    net.addPort(1, 1, 66, 2);
-    net.addPort(0, 1, 65, 2);
-    net.send(1, 65, false, 3, 9, false);
-    net.step(60);
+    SeamarkNet net = Nets.crossed();
     same("1 KNOWS", net.knows(1, 65), 1);
-    net.addPort(1, 0, 65 + 2, 6);
-    net.addRoute(0, 65 + 2, 8, 66);
     net.send(1, 65, false, 3, 9, false);
     return net;
   }
@@ -864,92 +851,15 @@ public final class PromiseTest {
     same("a WHOLE COMPLAINT is told", narrower.whoTells(0, 130, 1), 18);
     narrower.dropRoute(1);
     same("the PIECES of the next trial are split again", narrower.widest(0, 130), 196);
-    same("200 STEPS are enough", chainOf(12, 12, 12, 12).widest(0, 130), 196);
-    same("201 are too many", chainOf(16, 12, 16, 48).widest(0, 130), -1);
-    knowsFromTheOneAhead();
-    same("six are enough", funnel(5).widest(0, 32 * 5 + 2), 196 - 5 * 10);
-    same("small ones come through the funnel", funnel(6).hops(0, 32 * 6 + 2), 7);
-    same("behind 6 of them", funnel(6).widest(0, 32 * 6 + 2), -1);
-  }
-
-  /** 0 to 4 on four CABLES in a row, with a TUNNEL from 0 to 4 for 128 on; all HOPS are KNOWN. */
-  private SeamarkNet chainOf(int... widths) {
-    SeamarkNet net = new SeamarkNet();
-    for (int width : widths) {
-      net.addCable(width);
-    }
-    net.addCable(200);
-    for (int machine = 0; machine < 5; machine++) {
-      net.addMachine(true);
-      if (machine > 0) {
-        net.addPort(machine, machine - 1, 16 * (machine - 1) + 2, 4);
-        net.addRoute(machine, 1, 8, 16 * (machine - 1) + 1);
-      }
-      if (machine < 4) {
-        net.addPort(machine, machine, 16 * machine + 1, 4);
-        net.addRoute(machine, 50, 8, 16 * machine + 2);
-      }
-    }
-    net.addPort(4, 4, 130, 8);
-    net.addTunnel(0, 50);
-    net.addRoute(0, 128, 1, -1);
-    net.addTunnel(4, 1);
-    net.send(0, 50, true, 1, 32, false);
-    net.step(60);
-    same("the chain is laid", net.noted(0), 1);
-    return net;
-  }
-
-  /** 1 sends all to 0 by way of 3, on a narrow CABLE; it KNOWS 3 by the first COMPLAINT only. */
-  private void knowsFromTheOneAhead() {
-    SeamarkNet net = new SeamarkNet();
-    net.addCable(200);
-    net.addCable(100);
-    net.addCable(12);
-    for (int machine = 0; machine < 4; machine++) {
-      net.addMachine(true);
-    }
-    net.addPort(0, 0, 1, 4);
-    net.addPort(1, 0, 2, 4);
-    net.addPort(1, 1, 17, 4);
-    net.addPort(2, 1, 18, 4);
-    net.addPort(1, 2, 33, 4);
-    net.addPort(3, 2, 34, 4);
-    net.addPort(0, 2, 35, 4);
-    net.addRoute(0, 18, 8, 2);
-    net.addRoute(2, 1, 8, 17);
-    net.addRoute(1, 1, 8, 34);
-    net.addRoute(3, 1, 8, 35);
-    same("the second one has an ANSWER in 12 PIECES", net.widest(0, 18), 96);
-    net.setWidth(0, 100);
-    same("the first one has not", net.widest(0, 18), -1);
-  }
-
-  /** 0 on a CABLE of 200, then so many CABLES, each by 10 narrower, up to the last MACHINE. */
-  private static SeamarkNet funnel(int narrower) {
-    SeamarkNet net = new SeamarkNet();
-    int last = narrower + 1;
-    for (int cable = 0; cable <= narrower; cable++) {
-      net.addCable(200 - 10 * cable);
-    }
-    net.addMachine(true);
-    net.addPort(0, 0, 1, 3);
-    for (int machine = 1; machine <= last; machine++) {
-      net.addMachine(true);
-      net.addPort(machine, machine - 1, 32 * (machine - 1) + 2, 3);
-      if (machine < last) {
-        net.addPort(machine, machine, 32 * machine + 1, 3);
-      }
-    }
-    for (int machine = 0; machine <= last; machine++) {
-      if (machine < last) {
-        net.addRoute(machine, 32 * narrower + 2, 8, 32 * machine + 2);
-      }
-      if (machine > 0) {
-        net.addRoute(machine, 1, 8, 32 * (machine - 1) + 1);
-      }
-    }
-    return net;
+    same("200 STEPS are enough", Nets.chain(12, 12, 12, 12).widest(0, 130), 196);
+    same("201 are too many", Nets.chain(16, 12, 16, 48).widest(0, 130), -1);
+    SeamarkNet ahead = Nets.byTheOneAhead();
+    same("the second one has an ANSWER in 12 PIECES", ahead.widest(0, 18), 96);
+    ahead.setWidth(0, 100);
+    same("the first one has not", ahead.widest(0, 18), -1);
+    same("six are enough", Nets.funnel(5).widest(0, 32 * 5 + 2), 196 - 5 * 10);
+    same("small ones come through the funnel", Nets.funnel(6).hops(0, 32 * 6 + 2), 7);
+    same("behind 6 of them", Nets.funnel(6).widest(0, 32 * 6 + 2), -1);
   }
 
   private void promise31() {
