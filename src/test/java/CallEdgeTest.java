@@ -27,11 +27,6 @@ public final class CallEdgeTest {
     s.end();
   }
 
-  private static void note(Check check, SeamarkNet net, int machine, int back, String due) {
-    check.same("noted(" + machine + ") is above " + back, net.noted(machine) > back, true);
-    check.same("NOTED by " + machine + ", " + back + " back", View.note(net, machine, back), due);
-  }
-
   private static int addressOf(int mark) {
     return mark == 31 ? 255 : mark == 30 ? 0 : mark + 1;
   }
@@ -191,7 +186,7 @@ public final class CallEdgeTest {
       SeamarkNet net = Nets.street(40);
       net.send(0, 40, false, 9, 1, false);
       net.giveUp(0);
-      note(check, net, 0, 0, "4 33 0 32 1 1");
+      check.note(net, 0, 0, "4 33 0 32 1 1");
     });
     s.test("Promise 13: one by one, from the first one on", check -> {
       SeamarkNet net = Nets.line(100, 100, 100);
@@ -199,9 +194,9 @@ public final class CallEdgeTest {
       net.send(1, 40, false, 9, 1, false);
       net.send(1, 21, false, 9, 1, false);
       net.giveUp(1);
-      note(check, net, 1, 2, "4 18 0 32 3 1");
-      note(check, net, 1, 1, "4 35 0 32 4 1");
-      note(check, net, 1, 0, "4 18 0 32 5 1");
+      check.note(net, 1, 2, "4 18 0 32 3 1");
+      check.note(net, 1, 1, "4 35 0 32 4 1");
+      check.note(net, 1, 0, "4 18 0 32 5 1");
     });
     s.test("Promise 13: they wait no more, and then: a COMPLAINT that WAITS stays", check -> {
       SeamarkNet net = Nets.line(100, 100, 100);
@@ -213,7 +208,7 @@ public final class CallEdgeTest {
       check.same("the COMPLAINT WAITS for 17", net.waiting(1), 1);
       check.same("only the first one is GONE", net.gone(), 1);
       net.step(60);
-      note(check, net, 0, 0, "4 18 0 32 1 1");
+      check.note(net, 0, 0, "4 18 0 32 1 1");
     });
     s.test("Promise 13: six COMPLAINTS that WAIT put none out", check -> {
       SeamarkNet net = Nets.line(100, 100, 100);
@@ -229,8 +224,8 @@ public final class CallEdgeTest {
       check.same("one QUESTION", net.frames(), 1);
       net.step(60);
       check.same("all are told", net.noted(0), 6);
-      note(check, net, 0, 5, "4 18 0 32 6 1");
-      note(check, net, 0, 0, "4 18 0 32 11 1");
+      check.note(net, 0, 5, "4 18 0 32 6 1");
+      check.note(net, 0, 0, "4 18 0 32 11 1");
     });
     s.test("Promise 13: of a COMPLAINT that WAITS there is none", check -> {
       SeamarkNet net = Nets.line(100, 100, 100);
@@ -469,17 +464,17 @@ public final class CallEdgeTest {
       SeamarkNet net = Nets.street(40);
       for (int size = 0; size < 40; size++) {
         net.send(0, 33, false, size, size + 1, false);
-        note(check, net, 0, 0, "0 33 " + size + " " + (size + 1) + " " + size + " 0");
+        check.note(net, 0, 0, "0 33 " + size + " " + (size + 1) + " " + size + " 0");
       }
-      note(check, net, 0, 9, "0 33 30 31 30 0");
+      check.note(net, 0, 9, "0 33 30 31 30 0");
     });
     s.test("Promise 24: its TTL, as it came", check -> {
       SeamarkNet net = Nets.line(100, 100, 100);
       net.send(0, 34, false, 9, 40, false);
       net.send(2, 34, false, 9, 1, false);
       net.step(60);
-      note(check, net, 2, 1, "0 34 9 1 1 0");
-      note(check, net, 2, 0, "0 17 9 39 0 0");
+      check.note(net, 2, 1, "0 34 9 1 1 0");
+      check.note(net, 2, 0, "0 17 9 39 0 0");
     });
   }
 

@@ -49,6 +49,21 @@ final class Check {
     same(what, answerOf(call), "throws java.lang.IllegalStateException");
   }
 
+  /** These FRAMES are in the row, and no others. */
+  void frames(SeamarkNet net, String... due) {
+    same("frames()", net.frames(), due.length);
+    for (int frame = 0; frame < due.length && frame < net.frames(); frame++) {
+      same("FRAME " + frame, View.frame(net, frame), due[frame]);
+    }
+  }
+
+  /** The MACHINE has NOTED that PACKET, so many back. */
+  void note(SeamarkNet net, int machine, int back, String due) {
+    boolean isThere = net.noted(machine) > back;
+    same("NOTED by " + machine + ", " + back + " back",
+        isThere ? View.note(net, machine, back) : "nothing", due);
+  }
+
   int made() {
     return made;
   }

@@ -25,18 +25,6 @@ public final class FrameEdgeTest {
 
   // ---- nets
 
-  private static void frames(Check check, SeamarkNet net, String... due) {
-    check.same("frames()", net.frames(), due.length);
-    for (int frame = 0; frame < due.length && frame < net.frames(); frame++) {
-      check.same("FRAME " + frame, View.frame(net, frame), due[frame]);
-    }
-  }
-
-  private static void note(Check check, SeamarkNet net, int machine, int back, String due) {
-    check.same("noted(" + machine + ") is above " + back, net.noted(machine) > back, true);
-    check.same("NOTED by " + machine + ", " + back + " back", View.note(net, machine, back), due);
-  }
-
   /** A street where so many DATA of SIZE 1 WAIT at 0 for 40, an ADDRESS that no PORT has. */
   private static SeamarkNet waiting(int count) {
     SeamarkNet net = Nets.street(40);
@@ -54,29 +42,29 @@ public final class FrameEdgeTest {
       net.send(0, 34, false, 1, 9, false);
       net.send(1, 35, false, 2, 9, false);
       net.send(2, 33, false, 3, 9, false);
-      frames(check, net, "0 0 -1 1 34 0 0 -1", "0 4 -1 1 35 0 0 -1", "0 8 -1 1 33 0 0 -1");
+      check.frames(net, "0 0 -1 1 34 0 0 -1", "0 4 -1 1 35 0 0 -1", "0 8 -1 1 33 0 0 -1");
       net.step(1);
-      frames(check, net, "0 4 -1 1 35 0 0 -1", "0 8 -1 1 33 0 0 -1", "0 4 0 2 34 0 0 -1");
+      check.frames(net, "0 4 -1 1 35 0 0 -1", "0 8 -1 1 33 0 0 -1", "0 4 0 2 34 0 0 -1");
       net.step(2);
-      frames(check, net, "0 4 0 2 34 0 0 -1", "0 8 4 2 35 0 0 -1", "0 0 8 2 33 0 0 -1");
+      check.frames(net, "0 4 0 2 34 0 0 -1", "0 8 4 2 35 0 0 -1", "0 0 8 2 33 0 0 -1");
       net.step(1);
-      frames(check, net, "0 8 4 2 35 0 0 -1", "0 0 8 2 33 0 0 -1", "0 0 4 0 0 1 0 0");
+      check.frames(net, "0 8 4 2 35 0 0 -1", "0 0 8 2 33 0 0 -1", "0 0 4 0 0 1 0 0");
     });
     s.test("STEP: the first FRAME, which is in the row no more", check -> {
       SeamarkNet net = Nets.street(40);
       net.send(0, 40, false, 1, 9, false);
       net.send(0, 34, false, 2, 9, false);
       check.same("that for 40", net.step(1), 1);
-      frames(check, net, "0 0 -1 1 34 0 0 -1");
+      check.frames(net, "0 0 -1 1 34 0 0 -1");
     });
     s.test("STEP: the last FRAME, and then new ones", check -> {
       SeamarkNet net = Nets.street(40);
       net.send(0, 40, false, 1, 9, false);
       check.same("none is left", net.step(60), 0);
       net.send(0, 34, false, 2, 9, false);
-      frames(check, net, "0 0 -1 1 34 0 0 -1");
+      check.frames(net, "0 0 -1 1 34 0 0 -1");
       net.step(60);
-      note(check, net, 1, 0, "0 33 2 9 1 0");
+      check.note(net, 1, 0, "0 33 2 9 1 0");
     });
   }
 
@@ -88,28 +76,28 @@ public final class FrameEdgeTest {
       net.send(0, 34, false, 1, 9, false);
       net.step(1);
       net.send(1, 33, false, 2, 9, false);
-      frames(check, net, "0 4 0 2 34 0 0 -1", "0 4 0 0 1 2 0 0");
+      check.frames(net, "0 4 0 2 34 0 0 -1", "0 4 0 0 1 2 0 0");
       check.same("nothing WAITS at 1", net.waiting(1), 0);
     });
     s.test("HOP: otherwise it WAITS, and a QUESTION goes to all", check -> {
       SeamarkNet net = waiting(1);
       check.same("it WAITS", net.waiting(0), 1);
-      frames(check, net, "0 0 -1 1 40 0 0 -1");
+      check.frames(net, "0 0 -1 1 40 0 0 -1");
     });
     s.test("HOP: if it is not the only one that WAITS for it, there is no QUESTION", check -> {
       SeamarkNet net = waiting(2);
       check.same("both WAIT", net.waiting(0), 2);
-      frames(check, net, "0 0 -1 1 40 0 0 -1");
+      check.frames(net, "0 0 -1 1 40 0 0 -1");
       net.step(60);
       net.send(0, 40, false, 1, 9, false);
-      frames(check, net);
+      check.frames(net);
       check.same("three WAIT", net.waiting(0), 3);
     });
     s.test("HOP: of PIECES the first one asks", check -> {
       SeamarkNet net = Nets.street(12);
       net.send(0, 34, false, 48, 9, false);
       check.same("6 WAIT", net.waiting(0), 6);
-      frames(check, net, "0 0 -1 1 34 0 0 -1");
+      check.frames(net, "0 0 -1 1 34 0 0 -1");
     });
     s.test("HOP: those that WAIT for others do not count: each asks for its own", check -> {
       SeamarkNet net = Nets.street(40);
@@ -122,7 +110,7 @@ public final class FrameEdgeTest {
     s.test("HOP: it is asked for by the ADDRESS VIA which the ROUTE leads", check -> {
       SeamarkNet net = Nets.line(100, 100, 100);
       net.send(0, 49, false, 1, 9, false);
-      frames(check, net, "0 0 -1 1 18 0 0 -1");
+      check.frames(net, "0 0 -1 1 18 0 0 -1");
     });
   }
 
@@ -140,7 +128,7 @@ public final class FrameEdgeTest {
       check.same("waiting()", net.waiting(0), 6);
       check.same("gone()", net.gone(), 1);
       net.step(2);
-      frames(check, net, "0 0 4 0 1 2 0 0", "0 0 4 0 2 3 0 0", "0 0 4 0 3 4 0 0",
+      check.frames(net, "0 0 4 0 1 2 0 0", "0 0 4 0 2 3 0 0", "0 0 4 0 3 4 0 0",
           "0 0 4 0 4 5 0 0", "0 0 4 0 5 6 0 0", "0 0 4 0 6 7 0 0");
     });
     s.test("WAITS: the first one is GONE without a COMPLAINT", check -> {
@@ -169,8 +157,8 @@ public final class FrameEdgeTest {
       check.same("still 6", net.waiting(0), 6);
       check.same("a PACKET and a PIECE are GONE", net.gone(), 2);
       net.step(60);
-      note(check, net, 1, 0, "0 33 16 9 3 0");
-      note(check, net, 1, 1, "0 33 24 9 2 0");
+      check.note(net, 1, 0, "0 33 16 9 3 0");
+      check.note(net, 1, 1, "0 33 24 9 2 0");
       check.same("the half of one is KEPT", net.heaps(1), 1);
     });
     s.test("WAITS: a PACKET of 7 PIECES puts its own first one out", check -> {
@@ -221,7 +209,7 @@ public final class FrameEdgeTest {
       SeamarkNet net = waiting(2);
       net.giveUp(0);
       net.send(0, 40, false, 1, 9, false);
-      frames(check, net, "0 0 -1 1 40 0 0 -1", "0 0 -1 1 40 0 0 -1");
+      check.frames(net, "0 0 -1 1 40 0 0 -1", "0 0 -1 1 40 0 0 -1");
     });
   }
 
@@ -229,11 +217,11 @@ public final class FrameEdgeTest {
 
   private static void delivered(Sentences s) {
     s.test("Delivered: to the PORT with the MARK, on whatever CABLE that is", check -> {
-      SeamarkNet net = Nets.crossed();
+      SeamarkNet net = Nets.crossed(65, 66, 67);
       net.send(1, 65, false, 3, 9, false);
-      frames(check, net, "0 6 1 0 1 3 0 0");
+      check.frames(net, "0 6 1 0 1 3 0 0");
       net.step(1);
-      note(check, net, 0, 0, "0 67 3 9 1 0");
+      check.note(net, 0, 0, "0 67 3 9 1 0");
       check.same("CABLE 0 carried it", net.carried(0), 1);
     });
     s.test("Delivered: to all: to no PORT on another CABLE", check -> {
@@ -261,10 +249,10 @@ public final class FrameEdgeTest {
       }
       net.send(0, 227, true, 1, 9, false);
       check.same("one FRAME to all", net.step(1), 1);
-      frames(check, net, "0 31 0 2 227 0 0 -1");
+      check.frames(net, "0 31 0 2 227 0 0 -1");
       check.same("carried once", net.carried(0), 1);
       net.step(60);
-      note(check, net, 0, 0, "2 227 1 32 1 0");
+      check.note(net, 0, 0, "2 227 1 32 1 0");
     });
   }
 
@@ -277,7 +265,7 @@ public final class FrameEdgeTest {
       check.same("1 KNOWS no more", net.forget(1), 1);
       check.same("2 KNOWS nothing", net.forget(2), 0);
       check.same("0 KNOWS nothing yet", net.forget(0), 0);
-      frames(check, net, "0 4 0 2 34 0 0 -1");
+      check.frames(net, "0 4 0 2 34 0 0 -1");
     });
     s.test("QUESTION: for an ADDRESS that no PORT has: nothing comes of it", check -> {
       SeamarkNet net = waiting(1);
@@ -293,7 +281,7 @@ public final class FrameEdgeTest {
       net.step(1);
       check.same("1 KNOWS 33", net.knows(1, 33), 0);
       check.same("it WAITS on", net.waiting(1), 1);
-      frames(check, net, "0 4 -1 1 33 0 0 -1", "0 4 0 2 34 0 0 -1");
+      check.frames(net, "0 4 -1 1 33 0 0 -1", "0 4 0 2 34 0 0 -1");
     });
     s.test("QUESTION: as it WAITS on, what is new goes ahead of it", check -> {
       SeamarkNet net = Nets.street(40);
@@ -301,18 +289,18 @@ public final class FrameEdgeTest {
       net.send(1, 33, false, 2, 9, false);
       net.step(1);
       net.send(1, 33, false, 3, 9, false);
-      frames(check, net, "0 4 -1 1 33 0 0 -1", "0 4 0 2 34 0 0 -1", "0 4 0 0 2 3 0 0");
+      check.frames(net, "0 4 -1 1 33 0 0 -1", "0 4 0 2 34 0 0 -1", "0 4 0 0 2 3 0 0");
       net.step(60);
-      note(check, net, 0, 1, "0 34 3 9 2 0");
-      note(check, net, 0, 0, "0 34 2 9 1 0");
+      check.note(net, 0, 1, "0 34 3 9 2 0");
+      check.note(net, 0, 0, "0 34 2 9 1 0");
     });
     s.test("QUESTION: of a PORT that came behind it, it is heard, too", check -> {
       SeamarkNet net = waiting(1);
       net.addPort(2, 0, 40, 8);
       net.step(1);
-      frames(check, net, "0 9 0 2 40 0 0 -1");
+      check.frames(net, "0 9 0 2 40 0 0 -1");
       net.step(60);
-      note(check, net, 2, 0, "0 33 1 9 0 0");
+      check.note(net, 2, 0, "0 33 1 9 0 0");
     });
     s.test("QUESTION: a PORT that comes behind its STEP does not hear it", check -> {
       SeamarkNet net = waiting(1);
@@ -329,7 +317,7 @@ public final class FrameEdgeTest {
       SeamarkNet net = Nets.street(40);
       net.addRoute(0, 128, 1, 33);
       net.send(0, 200, false, 1, 9, false);
-      frames(check, net, "0 0 -1 1 33 0 0 -1");
+      check.frames(net, "0 0 -1 1 33 0 0 -1");
       check.same("no REPLY", net.step(1), 0);
       check.same("0 KNOWS nothing", net.forget(0), 0);
       check.same("it WAITS on", net.waiting(0), 1);
@@ -339,13 +327,13 @@ public final class FrameEdgeTest {
       net.addPort(0, 0, 40, 3);
       net.addRoute(0, 128, 1, 40);
       net.send(0, 200, false, 1, 9, false);
-      frames(check, net, "0 0 -1 1 40 0 0 -1");
+      check.frames(net, "0 0 -1 1 40 0 0 -1");
       net.step(1);
       check.same("0 KNOWS itself", net.knows(0, 33), 0);
-      frames(check, net, "0 1 0 2 40 0 0 -1");
+      check.frames(net, "0 1 0 2 40 0 0 -1");
       net.step(1);
       check.same("and its other PORT", net.knows(0, 40), 1);
-      frames(check, net, "0 0 1 0 0 1 0 0");
+      check.frames(net, "0 0 1 0 0 1 0 0");
       net.step(1);
       check.same("without FORWARDING it is GONE", net.gone(), 1);
       check.same("nothing is NOTED", net.noted(0), 0);
@@ -359,7 +347,7 @@ public final class FrameEdgeTest {
       net.send(0, 34, false, 12, 9, false);
       net.send(0, 34, false, 1, 9, false);
       net.step(2);
-      frames(check, net, "0 0 4 0 0 3 0 0", "0 0 4 0 1 8 0 0", "0 0 4 0 1 4 8 0",
+      check.frames(net, "0 0 4 0 0 3 0 0", "0 0 4 0 1 8 0 0", "0 0 4 0 1 4 8 0",
           "0 0 4 0 2 1 0 0");
       check.same("none WAITS", net.waiting(0), 0);
     });
@@ -373,11 +361,11 @@ public final class FrameEdgeTest {
       net.step(3);
       check.same("40 was asked for, then 35 and 34", net.frames(), 2);
       net.step(1);
-      frames(check, net, "0 4 0 2 34 0 0 -1", "0 0 8 0 1 1 0 0", "0 0 8 0 3 3 0 0");
+      check.frames(net, "0 4 0 2 34 0 0 -1", "0 0 8 0 1 1 0 0", "0 0 8 0 3 3 0 0");
       check.same("three WAIT on", net.waiting(0), 3);
       net.step(1);
       check.same("one WAITS on", net.waiting(0), 1);
-      frames(check, net, "0 0 8 0 1 1 0 0", "0 0 8 0 3 3 0 0", "0 0 4 0 2 2 0 0",
+      check.frames(net, "0 0 8 0 1 1 0 0", "0 0 8 0 3 3 0 0", "0 0 4 0 2 2 0 0",
           "0 0 4 0 4 4 0 0");
     });
     s.test("REPLY: each goes by the PORT by which it was to go", check -> {
@@ -386,12 +374,12 @@ public final class FrameEdgeTest {
       net.send(0, 34, false, 1, 9, false);
       net.addPort(0, 1, 36, 4);
       net.send(0, 34, false, 2, 9, false);
-      frames(check, net, "0 0 -1 1 34 0 0 -1");
+      check.frames(net, "0 0 -1 1 34 0 0 -1");
       net.step(2);
-      frames(check, net, "0 0 4 0 0 1 0 0", "1 1 4 0 1 2 0 0");
+      check.frames(net, "0 0 4 0 0 1 0 0", "1 1 4 0 1 2 0 0");
       net.step(2);
-      note(check, net, 1, 0, "0 36 2 9 1 0");
-      note(check, net, 1, 1, "0 33 1 9 0 0");
+      check.note(net, 1, 0, "0 36 2 9 1 0");
+      check.note(net, 1, 1, "0 33 1 9 0 0");
     });
     s.test("REPLY: to a MACHINE where nothing WAITS any more: it KNOWS", check -> {
       SeamarkNet net = Nets.street(40);
@@ -406,7 +394,7 @@ public final class FrameEdgeTest {
       net.dropRoute(0);
       net.setWidth(0, 12);
       net.step(2);
-      frames(check, net, "0 0 4 0 0 50 0 0");
+      check.frames(net, "0 0 4 0 0 50 0 0");
     });
   }
 
@@ -424,8 +412,16 @@ public final class FrameEdgeTest {
       }
       net.step(60);
       check.same("all four", net.noted(1), 4);
-      note(check, net, 1, 0, "0 17 71 1 3 0");
-      note(check, net, 1, 3, "0 17 18 1 0 0");
+      check.note(net, 1, 0, "0 17 71 1 3 0");
+      check.note(net, 1, 3, "0 17 18 1 0 0");
+    });
+    s.test("RECEIVED: if TO is an ADDRESS of it by then", check -> {
+      SeamarkNet net = Nets.line(100, 100, 100);
+      net.send(0, 50, false, 5, 1, false);
+      net.step(2);
+      net.addPort(1, 2, 50, 8);
+      net.step(1);
+      check.note(net, 1, 0, "0 17 5 1 0 0");
     });
     s.test("Without FORWARDING it is GONE, and nothing is told of it", check -> {
       SeamarkNet net = Nets.line(100, 100, 100);
@@ -446,32 +442,32 @@ public final class FrameEdgeTest {
       net.send(0, 34, false, 5, 3, false);
       net.send(0, 18, false, 5, 3, false);
       net.step(60);
-      note(check, net, 1, 0, "0 17 5 3 2 0");
-      note(check, net, 2, 0, "0 17 5 2 1 0");
-      note(check, net, 3, 0, "0 17 5 1 0 0");
+      check.note(net, 1, 0, "0 17 5 3 2 0");
+      check.note(net, 2, 0, "0 17 5 2 1 0");
+      check.note(net, 3, 0, "0 17 5 1 0 0");
     });
     s.test("FORWARDING: if its TTL is 0: LOST, ABOUT 0", check -> {
       SeamarkNet net = Nets.line(100, 100, 100);
       net.send(0, 49, false, 5, 2, false);
       net.step(60);
       check.same("3 NOTES nothing", net.noted(3), 0);
-      note(check, net, 0, 0, "3 34 0 31 1 0");
+      check.note(net, 0, 0, "3 34 0 31 1 0");
       check.same("it is GONE", net.gone(), 1);
     });
     s.test("FORWARDING: LOST ahead of NO WAY", check -> {
       SeamarkNet net = Nets.line(100, 100, 100);
       net.send(0, 90, false, 5, 1, false);
       net.step(60);
-      note(check, net, 0, 0, "3 18 0 32 1 0");
+      check.note(net, 0, 0, "3 18 0 32 1 0");
       net.send(0, 90, false, 5, 2, false);
       net.step(60);
-      note(check, net, 0, 0, "4 18 0 32 3 0");
+      check.note(net, 0, 0, "4 18 0 32 3 0");
     });
     s.test("FORWARDING: LOST ahead of TOO WIDE", check -> {
       SeamarkNet net = Nets.line(100, 12, 100);
       net.send(0, 49, false, 50, 1, true);
       net.step(60);
-      note(check, net, 0, 0, "3 18 0 32 1 0");
+      check.note(net, 0, 0, "3 18 0 32 1 0");
     });
     s.test("FORWARDING: TTL counts for PIECES as for PACKETS", check -> {
       SeamarkNet net = Nets.line(12, 100, 100);
@@ -479,7 +475,7 @@ public final class FrameEdgeTest {
       net.step(60);
       check.same("three PIECES are LOST", net.gone(), 3);
       check.same("one COMPLAINT", net.packets(), 2);
-      note(check, net, 0, 0, "3 34 0 31 1 0");
+      check.note(net, 0, 0, "3 34 0 31 1 0");
     });
   }
 
@@ -501,7 +497,7 @@ public final class FrameEdgeTest {
         int ttl = ring.ttl(number, order[2]);
         check.same("no other one has that TTL", ttl != ring.ttl(number, order[0])
             && ttl != ring.ttl(number, order[1]), true);
-        note(check, ring.net, 3, 0, "0 17 20 " + ttl + " " + number + " 0");
+        check.note(ring.net, 3, 0, "0 17 20 " + ttl + " " + number + " 0");
         check.same("none is GONE", ring.net.gone(), 0);
       });
     }
@@ -590,6 +586,27 @@ public final class FrameEdgeTest {
       ring.bring(third, 8);
       check.same("not the fourth one, nor the third one", ring.net.noted(3), before + 2);
     });
+    s.test("Heaps: what comes whole begins none, and puts none out", check -> {
+      SeamarkNet net = Nets.street(12);
+      net.addTunnel(2, 34);
+      net.addRoute(2, 34, 8, 34);
+      net.addTunnel(1, 35);
+      net.addPort(1, 0, 130, 8);
+      net.addRoute(2, 130, 8, -1);
+      for (int heap = 0; heap < 3; heap++) {
+        net.forget(0);
+        net.send(0, 34, false, 49, 9, false);
+        net.step(60);
+      }
+      net.send(2, 34, false, 8, 9, false);
+      net.send(2, 34, true, 8, 9, true);
+      net.send(2, 130, false, 4, 9, false);
+      net.step(60);
+      check.same("DATA, and DATA that was WRAPPED", net.noted(1), 2);
+      check.same("an ANSWER", net.noted(2), 1);
+      check.same("3 heaps", net.heaps(1), 3);
+      check.same("a PIECE of each is GONE", net.gone(), 3);
+    });
     s.test("Heaps: 3 at each MACHINE", check -> {
       SeamarkNet net = Nets.street(12);
       for (int to = 34; to < 36; to++) {
@@ -612,21 +629,21 @@ public final class FrameEdgeTest {
       SeamarkNet net = Nets.line(100, 100, 100);
       net.send(0, 51, true, 7, 9, true);
       net.step(60);
-      note(check, net, 0, 0, "2 51 7 31 1 0");
+      check.note(net, 0, 0, "2 51 7 31 1 0");
     });
     s.test("ASK: the ANSWER is of the same SIZE, 0 or 400, too, and not WHOLE", check -> {
       for (int size = 0; size <= 400; size += 400) {
         SeamarkNet net = Nets.line(200, 200, 12);
         net.send(0, 51, true, size, 9, false);
         net.step(60);
-        note(check, net, 0, 0, "2 51 " + size + " 31 1 0");
+        check.note(net, 0, 0, "2 51 " + size + " 31 1 0");
       }
       SeamarkNet net = Nets.line(60, 100, 100);
       net.send(2, 17, true, 40, 9, true);
       net.step(4);
       net.setWidth(0, 24);
       net.step(60);
-      note(check, net, 2, 0, "2 17 40 31 1 0");
+      check.note(net, 2, 0, "2 17 40 31 1 0");
       check.same("WHOLE there, in PIECES back", net.carried(0), 2 + 1 + 2);
     });
     s.test("ASK: the ANSWER has TTL 32, whatever that of the ASK was", check -> {
@@ -634,7 +651,7 @@ public final class FrameEdgeTest {
         SeamarkNet net = Nets.street(40);
         net.send(0, 34, true, 7, ttl, false);
         net.step(60);
-        note(check, net, 0, 0, "2 34 7 32 1 0");
+        check.note(net, 0, 0, "2 34 7 32 1 0");
       }
     });
     s.test("ASK: the ANSWER is ABOUT its NUMBER", check -> {
@@ -686,14 +703,14 @@ public final class FrameEdgeTest {
       net.send(0, 131, false, 5, 9, false);
       net.step(60);
       check.same("gone()", net.gone(), 0);
-      note(check, net, 2, 0, "0 17 5 9 0 0");
+      check.note(net, 2, 0, "0 17 5 9 0 0");
     });
     s.test("WRAPPED: that which comes is never NOTED itself", check -> {
       SeamarkNet net = Nets.tunnelled(100);
       net.send(0, 130, false, 5, 9, false);
       net.step(60);
       check.same("noted(3)", net.noted(3), 1);
-      note(check, net, 3, 0, "0 17 5 9 0 0");
+      check.note(net, 3, 0, "0 17 5 9 0 0");
     });
   }
 
@@ -703,7 +720,7 @@ public final class FrameEdgeTest {
       net.setForwarding(3, true);
       net.send(0, 161, false, 5, 2, false);
       net.step(60);
-      note(check, net, 4, 0, "0 17 5 1 0 0");
+      check.note(net, 4, 0, "0 17 5 1 0 0");
     });
     s.test("WRAPPED: and LOST with TTL 1", check -> {
       SeamarkNet net = Nets.behind();
@@ -711,7 +728,7 @@ public final class FrameEdgeTest {
       net.send(0, 161, false, 5, 1, false);
       net.step(60);
       check.same("noted(4)", net.noted(4), 0);
-      note(check, net, 0, 0, "3 49 0 30 2 0");
+      check.note(net, 0, 0, "3 49 0 30 2 0");
     });
     s.test("WRAPPED: and GONE without FORWARDING", check -> {
       SeamarkNet net = Nets.behind();
@@ -732,14 +749,14 @@ public final class FrameEdgeTest {
         heaps = Math.max(heaps, net.heaps(3));
       }
       check.same("one heap", heaps, 1);
-      note(check, net, 3, 0, "0 17 20 8 0 0");
+      check.note(net, 3, 0, "0 17 20 8 0 0");
     });
     s.test("WRAPPED: and a WRAPPED one in it is unwrapped, too", check -> {
       SeamarkNet net = Nets.tunnelInTunnel(100);
       net.send(0, 200, false, 5, 1, true);
       net.step(60);
       check.same("no fourth PACKET", net.packets(), 3);
-      note(check, net, 3, 0, "0 17 5 1 0 0");
+      check.note(net, 3, 0, "0 17 5 1 0 0");
     });
   }
 
@@ -790,6 +807,17 @@ public final class FrameEdgeTest {
         net.send(0, 34, false, 49, 9, false);
         net.step(60);
         check.same("a PIECE of each, and a heap", net.gone(), heap < 3 ? heap + 1 : 5);
+      }
+    });
+    s.test("GONE: at each MACHINE, the first one and the eighth one, too", check -> {
+      SeamarkNet net = new SeamarkNet();
+      net.addCable(12);
+      for (int machine = 0; machine < 8; machine++) {
+        net.addMachine(false);
+        net.addPort(machine, 0, 10 * machine, 0);
+        net.send(machine, 200, false, 9, 9, true);
+        check.same("gone()", net.gone(), machine + 1);
+        check.same("it is told there", net.noted(machine), 1);
       }
     });
     s.test("GONE: a WRAPPED PACKET counts 1, with the one in it", check -> {

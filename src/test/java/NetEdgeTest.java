@@ -349,6 +349,16 @@ public final class NetEdgeTest {
       net.addRoute(0, 0b11000000, 1, 0b01000000);
       way(check, net, 0b11000000, "0 64 1");
     });
+    s.test("ROUTE VIA an ADDRESS: 0 or 255, too", check -> {
+      SeamarkNet net = withPort(0b00000001, 1);
+      net.addPort(0, 0, 0b11000000, 2);
+      net.addRoute(0, 0b10000000, 8, 0);
+      net.addRoute(0, 0b10000001, 8, 255);
+      way(check, net, 0b10000000, "0 0 8");
+      way(check, net, 0b10000001, "1 255 8");
+      check.same("it goes there", net.send(0, 0b10000000, false, 1, 1, false), 0);
+      check.same("0 is asked for", View.frame(net, 0), "0 0 -1 1 0 0 0 -1");
+    });
     s.test("ROUTE VIA a TUNNEL: by that, wherever its FAR is", check -> {
       SeamarkNet net = withPort(0b01000000, 2);
       net.addTunnel(0, 0b11111111);

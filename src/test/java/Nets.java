@@ -127,22 +127,24 @@ final class Nets {
     return net;
   }
 
-  /** 1 sends to 65 by CABLE 0, but KNOWS the MARK of that PORT of 0 as being on CABLE 1. */
-  static SeamarkNet crossed() {
+  /**
+   * 1 sends to far by CABLE 0, but KNOWS the MARK of that PORT of 0 as being on CABLE 1. The other
+   * two ADDRESSES are of 1; the first 6 bits of all three are the same, and not those of 101.
+   */
+  static SeamarkNet crossed(int far, int near, int other) {
     SeamarkNet net = new SeamarkNet();
     net.addCable(100);
     net.addCable(100);
     net.addMachine(true);
     net.addMachine(true);
-    net.addPort(0, 0, 1, 8);
-    net.addPort(1, 0, 2, 8);
-    net.addRoute(1, 0, 0, 1);
-    net.addPort(1, 1, 66, 2);
-    net.addPort(0, 1, 65, 2);
-    net.send(1, 65, false, 3, 9, false);
+    net.addPort(0, 0, 101, 8);
+    net.addPort(1, 0, 102, 8);
+    net.addPort(1, 1, near, 2);
+    net.addPort(0, 1, far, 2);
+    net.send(1, far, false, 3, 9, false);
     net.step(60);
-    net.addPort(1, 0, 65 + 2, 6);
-    net.addRoute(0, 65 + 2, 8, 66);
+    net.addPort(1, 0, other, 6);
+    net.addRoute(0, other, 8, near);
     return net;
   }
 

@@ -45,18 +45,6 @@ public final class PacketEdgeTest {
     return net;
   }
 
-  private static void frames(Check check, SeamarkNet net, String... due) {
-    check.same("frames()", net.frames(), due.length);
-    for (int frame = 0; frame < due.length && frame < net.frames(); frame++) {
-      check.same("FRAME " + frame, View.frame(net, frame), due[frame]);
-    }
-  }
-
-  private static void note(Check check, SeamarkNet net, int machine, String due) {
-    check.same("noted(" + machine + ") is not 0", net.noted(machine) > 0, true);
-    check.same("NOTED last by " + machine, View.note(net, machine, 0), due);
-  }
-
   // ---- promise 10
 
   private static void promise10(Sentences s) {
@@ -98,7 +86,7 @@ public final class PacketEdgeTest {
     s.test("Promise 10: ABOUT 0", check -> {
       SeamarkNet net = knownStreet(40);
       net.send(0, 33, false, 5, 5, false);
-      note(check, net, 0, "0 33 5 5 1 0");
+      check.note(net, 0, 0, "0 33 5 5 1 0");
     });
   }
 
@@ -108,16 +96,16 @@ public final class PacketEdgeTest {
     s.test("SIZE: 0 is the smallest one", check -> {
       SeamarkNet net = knownStreet(12);
       net.send(0, 34, true, 0, 1, true);
-      frames(check, net, "0 0 4 0 1 0 0 1");
+      check.frames(net, "0 0 4 0 1 0 0 1");
       net.step(60);
-      note(check, net, 0, "2 34 0 32 2 1");
+      check.note(net, 0, 0, "2 34 0 32 2 1");
     });
     s.test("SIZE: 400 is the greatest one that is sent", check -> {
       SeamarkNet net = knownStreet(200);
       net.send(0, 34, true, 400, 1, false);
-      frames(check, net, "0 0 4 0 1 196 0 1", "0 0 4 0 1 196 196 1", "0 0 4 0 1 8 392 1");
+      check.frames(net, "0 0 4 0 1 196 0 1", "0 0 4 0 1 196 196 1", "0 0 4 0 1 8 392 1");
       net.step(60);
-      note(check, net, 0, "2 34 400 32 2 1");
+      check.note(net, 0, 0, "2 34 400 32 2 1");
     });
     s.test("SIZE: 400 on the smallest WIDTH", check -> {
       SeamarkNet net = knownStreet(12);
@@ -127,7 +115,7 @@ public final class PacketEdgeTest {
       net.step(49);
       check.same("one is missing", net.heaps(1), 1);
       net.step(1);
-      note(check, net, 1, "0 33 400 1 1 0");
+      check.note(net, 1, 0, "0 33 400 1 1 0");
     });
   }
 
@@ -136,16 +124,16 @@ public final class PacketEdgeTest {
       SeamarkNet net = Nets.line(100, 100, 100);
       net.send(0, 18, false, 5, 1, false);
       net.step(60);
-      note(check, net, 1, "0 17 5 1 0 0");
+      check.note(net, 1, 0, "0 17 5 1 0 0");
       net.send(0, 34, false, 5, 1, false);
       net.step(60);
-      note(check, net, 0, "3 18 0 32 2 0");
+      check.note(net, 0, 0, "3 18 0 32 2 0");
     });
     s.test("TTL: 40 is the greatest one", check -> {
       SeamarkNet net = Nets.line(100, 100, 100);
       net.send(0, 49, false, 5, 40, false);
       net.step(60);
-      note(check, net, 3, "0 17 5 38 0 0");
+      check.note(net, 3, 0, "0 17 5 38 0 0");
     });
   }
 
@@ -166,18 +154,18 @@ public final class PacketEdgeTest {
     s.test("NUMBERS: of ANSWERS, WRAPPED PACKETS and COMPLAINTS, too", check -> {
       SeamarkNet net = Nets.tunnelled(100);
       check.same("an ASK to itself", net.send(0, 17, true, 5, 5, false), 0);
-      note(check, net, 0, "2 17 5 32 1 0");
+      check.note(net, 0, 0, "2 17 5 32 1 0");
       check.same("one that is wrapped", net.send(0, 130, false, 5, 5, false), 2);
       net.step(2);
-      frames(check, net, "0 0 4 0 3 9 0 6");
+      check.frames(net, "0 0 4 0 3 9 0 6");
       check.same("one that is TOO WIDE", net.send(0, 49, false, 97, 5, true), 4);
-      note(check, net, 0, "5 17 0 32 5 100");
+      check.note(net, 0, 0, "5 17 0 32 5 100");
       check.same("the next one", net.send(0, 17, false, 5, 5, false), 6);
     });
     s.test("NUMBERS: PIECES have that of their PACKET", check -> {
       SeamarkNet net = knownStreet(12);
       check.same("send", net.send(0, 34, false, 17, 5, false), 1);
-      frames(check, net, "0 0 4 0 1 8 0 0", "0 0 4 0 1 8 8 0", "0 0 4 0 1 1 16 0");
+      check.frames(net, "0 0 4 0 1 8 0 0", "0 0 4 0 1 8 8 0", "0 0 4 0 1 1 16 0");
       check.same("the next PACKET", net.send(0, 34, false, 8, 5, false), 2);
     });
   }
@@ -192,7 +180,7 @@ public final class PacketEdgeTest {
       }
       for (int port = 0; port < 4; port++) {
         net.send(0, 64 + port, false, 5, 5, false);
-        note(check, net, 0, "0 " + (64 + port) + " 5 5 " + port + " 0");
+        check.note(net, 0, 0, "0 " + (64 + port) + " 5 5 " + port + " 0");
       }
     });
     s.test("FROM: otherwise the ADDRESS of the PORT by which the WAY to TO leads", check -> {
@@ -200,8 +188,8 @@ public final class PacketEdgeTest {
       net.send(1, 17, false, 5, 5, false);
       net.send(1, 49, false, 5, 5, false);
       net.step(60);
-      note(check, net, 0, "0 18 5 5 0 0");
-      note(check, net, 3, "0 35 5 4 1 0");
+      check.note(net, 0, 0, "0 18 5 5 0 0");
+      check.note(net, 3, 0, "0 35 5 4 1 0");
     });
     s.test("FROM: without such a PORT the PACKET does not come to be", check -> {
       SeamarkNet net = Nets.line(100, 100, 100);
@@ -210,6 +198,20 @@ public final class PacketEdgeTest {
       check.same("no PORT to VIA", net.send(1, 90, false, 5, 5, false), -1);
       check.same("packets()", net.packets(), 0);
       check.same("gone()", net.gone(), 0);
+    });
+    s.test("FROM: a COMPLAINT may be FROM the ADDRESS 0, too", check -> {
+      SeamarkNet net = new SeamarkNet();
+      net.addCable(12);
+      net.addMachine(true);
+      net.addMachine(true);
+      net.addPort(0, 0, 0, 7);
+      net.addPort(1, 0, 1, 7);
+      net.addRoute(1, 128, 1, 0);
+      net.send(1, 200, false, 5, 5, false);
+      net.step(60);
+      check.note(net, 1, 0, "4 0 0 32 1 0");
+      net.send(0, 1, false, 9, 5, true);
+      check.note(net, 0, 0, "5 0 0 32 3 12");
     });
     s.test("FROM: a COMPLAINT without such a PORT does not come to be either", check -> {
       SeamarkNet net = Nets.line(100, 100, 100);
@@ -232,7 +234,7 @@ public final class PacketEdgeTest {
       net.addTunnel(3, 35);
       check.same("send", net.send(1, 60, false, 5, 5, false), 0);
       net.step(60);
-      note(check, net, 3, "0 35 5 5 0 0");
+      check.note(net, 3, 0, "0 35 5 5 0 0");
     });
     s.test("FROM: by a TUNNEL without a WAY to FAR the PACKET does not come to be", check -> {
       SeamarkNet net = Nets.line(100, 100, 100);
@@ -261,9 +263,9 @@ public final class PacketEdgeTest {
     s.test("GO OUT: to an ADDRESS of the MACHINE itself: RECEIVED at once", check -> {
       SeamarkNet net = Nets.line(12, 12, 12);
       net.send(2, 51, false, 400, 1, true);
-      note(check, net, 2, "0 51 400 1 0 0");
+      check.note(net, 2, 0, "0 51 400 1 0 0");
       net.send(2, 34, true, 400, 1, true);
-      note(check, net, 2, "2 34 400 32 2 1");
+      check.note(net, 2, 0, "2 34 400 32 2 1");
       check.same("without FRAMES", net.frames(), 0);
       check.same("without STEPS", net.steps(), 0);
       check.same("nothing WAITS", net.waiting(2), 0);
@@ -275,14 +277,14 @@ public final class PacketEdgeTest {
       net.addRoute(0, 200, 8, -1);
       check.same("by a TUNNEL", View.way(net, 0, 200), "-2 0 8");
       net.send(0, 200, false, 5, 1, false);
-      note(check, net, 0, "0 200 5 1 0 0");
+      check.note(net, 0, 0, "0 200 5 1 0 0");
       net.addPort(1, 0, 201, 0);
       net.addRoute(1, 201, 8, 250);
       net.addPort(2, 0, 202, 1);
       net.addRoute(2, 202, 8, 3);
       check.same("none", View.way(net, 2, 202), "-1 -1 -1");
       net.send(2, 202, true, 6, 1, false);
-      note(check, net, 2, "2 202 6 32 2 1");
+      check.note(net, 2, 0, "2 202 6 32 2 1");
     });
   }
 
@@ -291,12 +293,12 @@ public final class PacketEdgeTest {
       SeamarkNet net = Nets.line(100, 100, 100);
       net.send(0, 90, false, 5, 2, false);
       net.step(60);
-      note(check, net, 0, "4 18 0 32 1 0");
+      check.note(net, 0, 0, "4 18 0 32 1 0");
       check.same("it is GONE", net.gone(), 1);
       net.addRoute(1, 90, 8, 70);
       net.send(0, 90, false, 5, 2, false);
       net.step(60);
-      note(check, net, 0, "4 18 0 32 3 0");
+      check.note(net, 0, 0, "4 18 0 32 3 0");
     });
     s.test("GO OUT: an ANSWER without a WAY: NO WAY, told to its own MACHINE", check -> {
       SeamarkNet net = Nets.line(100, 100, 100);
@@ -304,7 +306,7 @@ public final class PacketEdgeTest {
       net.send(0, 49, true, 5, 9, false);
       net.step(60);
       check.same("none comes to 0", net.noted(0), 0);
-      note(check, net, 3, "4 49 0 32 2 0");
+      check.note(net, 3, 0, "4 49 0 32 2 0");
       check.same("the ANSWER is GONE", net.gone(), 1);
     });
   }
@@ -320,7 +322,7 @@ public final class PacketEdgeTest {
         check.same("FRAME", View.frame(net, 0), "0 0 4 0 1 " + first + " 0 6");
         check.same("how many", net.frames(), (size + 4 + 195) / 196);
         net.step(60);
-        note(check, net, 3, "0 17 " + size + " 1 0 0");
+        check.note(net, 3, 0, "0 17 " + size + " 1 0 0");
       }
     });
     s.test("WRAPPED: TTL 32, whatever that of the one in it is", check -> {
@@ -333,7 +335,7 @@ public final class PacketEdgeTest {
         net.send(0, 130, false, 8, ttl, false);
         net.step(60);
         check.same("it is LOST at the end", net.frames(), 0);
-        note(check, net, 0, "3 34 0 31 2 0");
+        check.note(net, 0, 0, "3 34 0 31 2 0");
         check.same("32 of its FRAMES, 2 of the LOST one, 4 others", net.steps(), 38);
       }
     });
@@ -342,9 +344,9 @@ public final class PacketEdgeTest {
       net.send(0, 130, false, 5, 1, true);
       check.same("PIECES of 8 and 1 WAIT", net.waiting(0), 2);
       net.step(2);
-      frames(check, net, "0 0 4 0 1 8 0 6", "0 0 4 0 1 1 8 6");
+      check.frames(net, "0 0 4 0 1 8 0 6", "0 0 4 0 1 1 8 6");
       net.step(60);
-      note(check, net, 3, "0 17 5 1 0 0");
+      check.note(net, 3, 0, "0 17 5 1 0 0");
       check.same("nothing is GONE", net.gone(), 0);
     });
     s.test("WRAPPED: a PIECE that is forwarded, by itself", check -> {
@@ -354,18 +356,18 @@ public final class PacketEdgeTest {
       net.addTunnel(3, 35);
       net.addRoute(1, 60, 8, -1);
       net.send(0, 60, false, 20, 9, false);
-      frames(check, net, "0 0 4 0 2 12 0 0", "0 0 4 0 2 8 12 0");
+      check.frames(net, "0 0 4 0 2 12 0 0", "0 0 4 0 2 8 12 0");
       net.step(2);
-      frames(check, net, "1 5 8 0 3 16 0 6", "1 5 8 0 4 12 0 6");
+      check.frames(net, "1 5 8 0 3 16 0 6", "1 5 8 0 4 12 0 6");
       net.step(60);
-      note(check, net, 3, "0 17 20 8 2 0");
+      check.note(net, 3, 0, "0 17 20 8 2 0");
     });
     s.test("WRAPPED: TO what is TOO WIDE for a WHOLE one without a TUNNEL", check -> {
       SeamarkNet net = Nets.tunnelled(100);
       net.send(0, 130, false, 400, 1, true);
       check.same("5 PIECES", net.waiting(0), 5);
       net.step(60);
-      note(check, net, 3, "0 17 400 1 0 0");
+      check.note(net, 3, 0, "0 17 400 1 0 0");
     });
   }
 
@@ -376,9 +378,9 @@ public final class PacketEdgeTest {
       net.addRoute(1, 90, 8, -1);
       net.send(0, 90, false, 5, 9, false);
       net.step(60);
-      note(check, net, 0, "4 18 0 32 1 0");
+      check.note(net, 0, 0, "4 18 0 32 1 0");
       check.same("its own ones", net.send(1, 90, false, 5, 9, false), 2);
-      note(check, net, 1, "4 35 0 32 3 0");
+      check.note(net, 1, 0, "4 35 0 32 3 0");
       check.same("they are GONE", net.gone(), 2);
     });
     s.test("By a TUNNEL: if the WAY to FAR is none: NO WAY, ABOUT 0", check -> {
@@ -387,7 +389,7 @@ public final class PacketEdgeTest {
       net.addRoute(1, 90, 8, -1);
       net.send(0, 90, false, 5, 9, false);
       net.step(60);
-      note(check, net, 0, "4 18 0 32 1 0");
+      check.note(net, 0, 0, "4 18 0 32 1 0");
       check.same("no WRAPPED one came to be", net.packets(), 2);
     });
     s.test("By a TUNNEL: if the WAY to FAR is by a TUNNEL, too: NO WAY, ABOUT 0", check -> {
@@ -399,7 +401,7 @@ public final class PacketEdgeTest {
       net.addRoute(1, 92, 8, -2);
       net.send(0, 90, false, 5, 9, false);
       net.step(60);
-      note(check, net, 0, "4 18 0 32 1 0");
+      check.note(net, 0, 0, "4 18 0 32 1 0");
       check.same("no WRAPPED one came to be", net.packets(), 2);
       net.send(0, 92, false, 5, 9, false);
       net.step(60);
@@ -413,14 +415,14 @@ public final class PacketEdgeTest {
         for (int whole = 0; whole < 2; whole++) {
           SeamarkNet net = knownStreet(width);
           net.send(0, 34, false, width - 4, 1, whole == 1);
-          frames(check, net, "0 0 4 0 1 " + (width - 4) + " 0 0");
+          check.frames(net, "0 0 4 0 1 " + (width - 4) + " 0 0");
         }
       });
       s.test("SIZE + 4 above the WIDTH " + width + " by 1, WHOLE: TOO WIDE, ABOUT it", check -> {
         SeamarkNet net = knownStreet(width);
         check.same("send", net.send(0, 34, false, width - 3, 1, true), 1);
-        frames(check, net);
-        note(check, net, 0, "5 33 0 32 2 " + width);
+        check.frames(net);
+        check.note(net, 0, 0, "5 33 0 32 2 " + width);
         check.same("it is GONE", net.gone(), 1);
       });
       s.test("SIZE + 4 above the WIDTH " + width + " by 1, not WHOLE: it is split", check -> {
@@ -428,23 +430,23 @@ public final class PacketEdgeTest {
         net.send(0, 34, false, width - 3, 1, false);
         int first = (width - 4) / 4 * 4;
         int second = width - 3 - first;
-        frames(check, net, "0 0 4 0 1 " + first + " 0 0",
+        check.frames(net, "0 0 4 0 1 " + first + " 0 0",
             "0 0 4 0 1 " + second + " " + first + " 0");
         net.step(2);
-        note(check, net, 1, "0 33 " + (width - 3) + " 1 1 0");
+        check.note(net, 1, 0, "0 33 " + (width - 3) + " 1 1 0");
       });
     }
     s.test("TOO WIDE: on the way: ABOUT the WIDTH there", check -> {
       SeamarkNet net = Nets.line(100, 60, 50);
       net.send(0, 49, false, 57, 9, true);
       net.step(60);
-      note(check, net, 0, "5 18 0 32 1 60");
+      check.note(net, 0, 0, "5 18 0 32 1 60");
       net.send(0, 49, false, 47, 9, true);
       net.step(60);
-      note(check, net, 0, "5 34 0 31 3 50");
+      check.note(net, 0, 0, "5 34 0 31 3 50");
       net.send(0, 49, false, 46, 9, true);
       net.step(60);
-      note(check, net, 3, "0 17 46 7 4 0");
+      check.note(net, 3, 0, "0 17 46 7 4 0");
     });
   }
 
@@ -455,33 +457,33 @@ public final class PacketEdgeTest {
       s.test("PIECES of (W - 4) / 4 * 4: of " + most + " for W " + w, check -> {
         SeamarkNet net = knownStreet(w);
         net.send(0, 34, false, 2 * most + 1, 1, false);
-        frames(check, net, "0 0 4 0 1 " + most + " 0 0", "0 0 4 0 1 " + most + " " + most + " 0",
+        check.frames(net, "0 0 4 0 1 " + most + " 0 0", "0 0 4 0 1 " + most + " " + most + " 0",
             "0 0 4 0 1 1 " + 2 * most + " 0");
         net.step(60);
-        note(check, net, 1, "0 33 " + (2 * most + 1) + " 1 1 0");
+        check.note(net, 1, 0, "0 33 " + (2 * most + 1) + " 1 1 0");
       });
     }
     s.test("PIECES: the last one maybe less, but none of 0", check -> {
       SeamarkNet net = knownStreet(12);
       net.send(0, 34, false, 16, 1, false);
-      frames(check, net, "0 0 4 0 1 8 0 0", "0 0 4 0 1 8 8 0");
+      check.frames(net, "0 0 4 0 1 8 0 0", "0 0 4 0 1 8 8 0");
       net.step(2);
-      note(check, net, 1, "0 33 16 1 1 0");
+      check.note(net, 1, 0, "0 33 16 1 1 0");
       net.send(0, 34, false, 23, 1, false);
-      frames(check, net, "0 0 4 0 2 8 0 0", "0 0 4 0 2 8 8 0", "0 0 4 0 2 7 16 0");
+      check.frames(net, "0 0 4 0 2 8 0 0", "0 0 4 0 2 8 8 0", "0 0 4 0 2 7 16 0");
       net.step(3);
-      note(check, net, 1, "0 33 23 1 2 0");
+      check.note(net, 1, 0, "0 33 23 1 2 0");
     });
     s.test("PIECES: an ASK in PIECES is one ASK", check -> {
       SeamarkNet net = knownStreet(12);
       net.send(0, 34, true, 9, 1, false);
-      frames(check, net, "0 0 4 0 1 8 0 1", "0 0 4 0 1 1 8 1");
+      check.frames(net, "0 0 4 0 1 8 0 1", "0 0 4 0 1 1 8 1");
       net.step(1);
       check.same("no ANSWER to a PIECE", net.packets(), 2);
       net.step(1);
-      frames(check, net, "0 4 0 0 2 8 0 2", "0 4 0 0 2 1 8 2");
+      check.frames(net, "0 4 0 0 2 8 0 2", "0 4 0 0 2 1 8 2");
       net.step(2);
-      note(check, net, 0, "2 34 9 32 2 1");
+      check.note(net, 0, 0, "2 34 9 32 2 1");
     });
   }
 
@@ -489,9 +491,9 @@ public final class PacketEdgeTest {
     s.test("PLACE: that of the PACKET and what lies ahead of it there", check -> {
       SeamarkNet net = knownLine(40, 16, 100);
       net.send(0, 49, false, 60, 9, false);
-      frames(check, net, "0 0 4 0 2 36 0 0", "0 0 4 0 2 24 36 0");
+      check.frames(net, "0 0 4 0 2 36 0 0", "0 0 4 0 2 24 36 0");
       net.step(2);
-      frames(check, net, "1 5 8 0 2 12 0 0", "1 5 8 0 2 12 12 0", "1 5 8 0 2 12 24 0",
+      check.frames(net, "1 5 8 0 2 12 0 0", "1 5 8 0 2 12 12 0", "1 5 8 0 2 12 24 0",
           "1 5 8 0 2 12 36 0", "1 5 8 0 2 12 48 0");
     });
     s.test("MORE: the last PIECE of a PIECE with MORE has it, too", check -> {
@@ -503,7 +505,7 @@ public final class PacketEdgeTest {
       net.step(1);
       check.same("nor are 48", net.noted(3), 0);
       net.step(1);
-      note(check, net, 3, "0 17 60 7 2 0");
+      check.note(net, 3, 0, "0 17 60 7 2 0");
       check.same("nothing is KEPT any more", net.heaps(3), 0);
     });
     s.test("PLACE 0 and no MORE: it is no PIECE, however small", check -> {
@@ -511,16 +513,16 @@ public final class PacketEdgeTest {
       net.send(0, 34, false, 0, 1, false);
       net.send(0, 34, false, 8, 1, false);
       net.step(1);
-      note(check, net, 1, "0 33 0 1 1 0");
+      check.note(net, 1, 0, "0 33 0 1 1 0");
       net.step(1);
-      note(check, net, 1, "0 33 8 1 2 0");
+      check.note(net, 1, 0, "0 33 8 1 2 0");
       check.same("heaps", net.heaps(1), 0);
     });
     s.test("PIECES on a wider CABLE are not put together on the way", check -> {
       SeamarkNet net = knownLine(12, 200, 200);
       net.send(0, 49, false, 10, 9, false);
       net.step(2);
-      frames(check, net, "1 5 8 0 2 8 0 0", "1 5 8 0 2 2 8 0");
+      check.frames(net, "1 5 8 0 2 8 0 0", "1 5 8 0 2 2 8 0");
       check.same("nothing is KEPT by 1", net.heaps(1), 0);
     });
   }
@@ -537,21 +539,21 @@ public final class PacketEdgeTest {
       SeamarkNet net = knownLine(100, 100, 100);
       net.send(0, 90, false, 50, 2, false);
       net.step(1);
-      frames(check, net, "0 4 0 0 3 0 0 4");
+      check.frames(net, "0 4 0 0 3 0 0 4");
       net.step(1);
-      note(check, net, 0, "4 18 0 32 3 0");
+      check.note(net, 0, 0, "4 18 0 32 3 0");
     });
     s.test("COMPLAIN: of a PIECE with the PLACE 0, of no other PIECE", check -> {
       SeamarkNet net = knownLine(20, 100, 100);
       net.send(0, 90, false, 48, 9, false);
-      frames(check, net, "0 0 4 0 2 16 0 0", "0 0 4 0 2 16 16 0", "0 0 4 0 2 16 32 0");
+      check.frames(net, "0 0 4 0 2 16 0 0", "0 0 4 0 2 16 16 0", "0 0 4 0 2 16 32 0");
       net.step(1);
       check.same("of the first one", net.packets(), 4);
       net.step(2);
       check.same("not of the others", net.packets(), 4);
       check.same("all are GONE", net.gone(), 3);
       net.step(60);
-      note(check, net, 0, "4 18 0 32 3 0");
+      check.note(net, 0, 0, "4 18 0 32 3 0");
     });
     s.test("COMPLAIN: of a WRAPPED PACKET at the FROM of that", check -> {
       SeamarkNet net = Nets.line(100, 100, 100);
@@ -563,7 +565,7 @@ public final class PacketEdgeTest {
       net.send(0, 90, false, 5, 9, false);
       net.step(60);
       check.same("nothing for 0", net.noted(0), 0);
-      note(check, net, 1, "4 34 0 32 2 0");
+      check.note(net, 1, 0, "4 34 0 32 2 0");
     });
   }
 
@@ -613,13 +615,13 @@ public final class PacketEdgeTest {
       SeamarkNet net = Nets.street(40);
       net.send(0, 34, false, 5, 1, false);
       net.giveUp(0);
-      note(check, net, 0, "4 33 0 32 1 1");
+      check.note(net, 0, 0, "4 33 0 32 1 1");
     });
     s.test("COMPLAIN: of an ASK", check -> {
       SeamarkNet net = Nets.street(40);
       net.send(0, 34, true, 5, 1, false);
       net.giveUp(0);
-      note(check, net, 0, "4 33 0 32 1 1");
+      check.note(net, 0, 0, "4 33 0 32 1 1");
     });
     s.test("COMPLAIN: of an ANSWER", check -> {
       SeamarkNet net = Nets.street(40);
@@ -628,13 +630,13 @@ public final class PacketEdgeTest {
       net.forget(1);
       net.step(1);
       check.same("it WAITS", net.giveUp(1), 1);
-      note(check, net, 1, "4 34 0 32 2 1");
+      check.note(net, 1, 0, "4 34 0 32 2 1");
     });
     s.test("COMPLAIN: of a WRAPPED PACKET", check -> {
       SeamarkNet net = Nets.tunnelled(100);
       net.send(0, 130, true, 5, 1, false);
       check.same("it WAITS", net.giveUp(0), 1);
-      note(check, net, 0, "4 17 0 32 2 1");
+      check.note(net, 0, 0, "4 17 0 32 2 1");
     });
   }
 }

@@ -50,25 +50,12 @@ public final class PromiseTest {
     return net;
   }
 
-  private static int[] noteOf(SeamarkNet net, int machine, int back) {
-    int[] parts = new int[6];
-    for (int what = 0; what < 6; what++) {
-      parts[what] = net.note(machine, back, what);
-    }
-    return parts;
-  }
-
-  private static String frameOf(SeamarkNet net, int frame) {
-    StringBuilder text = new StringBuilder();
-    for (int what = 0; what < 8; what++) {
-      text.append(what == 0 ? "" : " ").append(net.frame(frame, what));
-    }
-    return text.toString();
-  }
-
   private void noted(String what, SeamarkNet net, int machine, int back, int... due) {
-    same(what, java.util.Arrays.toString(noteOf(net, machine, back)),
-        java.util.Arrays.toString(due));
+    StringBuilder text = new StringBuilder();
+    for (int part : due) {
+      text.append(text.length() == 0 ? "" : " ").append(part);
+    }
+    same(what, View.note(net, machine, back), text.toString());
   }
 
   /** The calls throw, and change nothing. */
@@ -261,7 +248,7 @@ public final class PromiseTest {
     noted("an ANSWER at once", net, 0, 0, 2, 33, 7, 32, 2, 1);
     same("without FRAMES", net.frames(), 0);
     same("just as wide", net.send(0, 34, false, 36, 1, true), 3);
-    same("a QUESTION", frameOf(net, 0), "0 0 -1 1 34 0 0 -1");
+    same("a QUESTION", View.frame(net, 0), "0 0 -1 1 34 0 0 -1");
     same("one too wide", net.send(0, 34, false, 37, 1, true), 4);
     noted("TOO WIDE", net, 0, 0, 5, 33, 0, 32, 5, 40);
     same("it is GONE", net.gone(), 1);
@@ -282,9 +269,9 @@ public final class PromiseTest {
     net.step(2);
     net.send(0, 34, false, 60, 5, false);
     same("4 FRAMES", net.frames(), 4);
-    same("PIECE at 0", frameOf(net, 1), "0 0 4 0 1 24 0 0");
-    same("PIECE at 24", frameOf(net, 2), "0 0 4 0 1 24 24 0");
-    same("PIECE at 48", frameOf(net, 3), "0 0 4 0 1 12 48 0");
+    same("PIECE at 0", View.frame(net, 1), "0 0 4 0 1 24 0 0");
+    same("PIECE at 24", View.frame(net, 2), "0 0 4 0 1 24 24 0");
+    same("PIECE at 48", View.frame(net, 3), "0 0 4 0 1 12 48 0");
     SeamarkNet split = Nets.line(80, 24, 120);
     split.send(0, 49, false, 100, 9, false);
     split.step(60);
@@ -298,9 +285,9 @@ public final class PromiseTest {
     SeamarkNet net = Nets.tunnelled(100);
     same("ASK", net.send(0, 130, true, 20, 1, true), 0);
     same("in a WRAPPED one", net.packets(), 2);
-    same("the QUESTION", frameOf(net, 0), "0 0 -1 1 18 0 0 -1");
+    same("the QUESTION", View.frame(net, 0), "0 0 -1 1 18 0 0 -1");
     net.step(2);
-    same("the WRAPPED one", frameOf(net, 0), "0 0 4 0 1 24 0 6");
+    same("the WRAPPED one", View.frame(net, 0), "0 0 4 0 1 24 0 6");
     net.step(60);
     noted("its ANSWER", net, 0, 0, 2, 130, 20, 30, 2, 0);
     same("all is well", net.gone(), 0);
@@ -347,7 +334,7 @@ public final class PromiseTest {
     same("1 KNOWS who asked", net.knows(1, 33), 0);
     same("0 KNOWS not yet", net.knows(0, 34), -1);
     same("2 was not asked", net.knows(2, 33), -1);
-    same("REPLY", frameOf(net, 0), "0 4 0 2 34 0 0 -1");
+    same("REPLY", View.frame(net, 0), "0 4 0 2 34 0 0 -1");
     same("both PIECES go", net.step(1), 2);
     same("0 KNOWS", net.knows(0, 34), 4);
     same("STEPS are as many as FRAMES", net.step(60), 0);
@@ -409,14 +396,14 @@ public final class PromiseTest {
   /** 1 has PORTS on both CABLES; the MARK it KNOWS is of a PORT on another CABLE in the end. */
   private void stepOtherCable() {
     SeamarkNet net = otherCable();
-    same("on CABLE 0, to a PORT on CABLE 1", frameOf(net, 0), "0 6 1 0 1 3 0 0");
+    same("on CABLE 0, to a PORT on CABLE 1", View.frame(net, 0), "0 6 1 0 1 3 0 0");
     net.step(1);
     same("it comes", net.noted(0), 2);
     same("CABLE 0 carried it", net.carried(0), 1);
   }
 
   private SeamarkNet otherCable() {
-    SeamarkNet net = Nets.crossed();
+    SeamarkNet net = Nets.crossed(65, 66, 67);
     same("1 KNOWS", net.knows(1, 65), 1);
     net.send(1, 65, false, 3, 9, false);
     return net;
@@ -430,7 +417,7 @@ public final class PromiseTest {
     same("that for 40 is GONE", net.gone(), 1);
     net.send(0, 40, false, 8, 5, false);
     same("the first PIECE is GONE", net.gone(), 2);
-    same("40 is asked for again", frameOf(net, 2), "0 0 -1 1 40 0 0 -1");
+    same("40 is asked for again", View.frame(net, 2), "0 0 -1 1 40 0 0 -1");
     net.step(60);
     same("PIECES without the first one", net.heaps(1), 1);
     same("40 WAITS on", net.waiting(0), 1);
@@ -445,7 +432,7 @@ public final class PromiseTest {
     same("1 KNOWS 33", net.knows(1, 33), 0);
     same("but waits on", net.waiting(1), 1);
     net.send(1, 33, false, 3, 5, false);
-    same("what is new goes at once", frameOf(net, 2), "0 4 0 0 2 3 0 0");
+    same("what is new goes at once", View.frame(net, 2), "0 4 0 0 2 3 0 0");
     net.step(60);
     same("the REPLY lets the other one go", net.waiting(1), 0);
     noted("so it comes last", net, 0, 0, 0, 34, 2, 5, 1, 0);
@@ -541,12 +528,12 @@ public final class PromiseTest {
     check.bounds("FRAME ahead of what", () -> net.frame(1, 8));
     check.argument("what -1", () -> net.frame(0, -1));
     check.argument("what 8", () -> net.frame(0, 8));
-    same("a QUESTION", frameOf(net, 0), "0 0 -1 1 34 0 0 -1");
+    same("a QUESTION", View.frame(net, 0), "0 0 -1 1 34 0 0 -1");
     net.step(1);
-    same("a REPLY", frameOf(net, 0), "0 4 0 2 34 0 0 -1");
+    same("a REPLY", View.frame(net, 0), "0 4 0 2 34 0 0 -1");
     net.step(1);
-    same("a PIECE", frameOf(net, 0), "0 0 4 0 0 36 0 0");
-    same("another one", frameOf(net, 1), "0 0 4 0 0 24 36 0");
+    same("a PIECE", View.frame(net, 0), "0 0 4 0 0 36 0 0");
+    same("another one", View.frame(net, 1), "0 0 4 0 0 24 36 0");
     check.bounds("FRAME 2", () -> net.frame(2, 0));
   }
 

@@ -1,6 +1,6 @@
 import java.util.function.Supplier;
 
-/** Calls that are refused: each throws the exception that is due, and all of them change nothing. */
+/** Calls that are refused: each throws the exception that is due; all of them change nothing. */
 final class Refused {
   private Refused() {}
 

@@ -2,8 +2,11 @@ import java.lang.management.ManagementFactory;
 
 /** The dearest runs of 512 calls end, throw nothing, and stay far within the room of one run. */
 public final class RoomTest {
-  /** 7.3 million fields and elements are allowed; each takes 4 bytes at most, heads included. */
-  private static final long MOST_BYTES = 12_000_000L;
+  /**
+   * The room of a run has 600,000 objects and 7.3 million fields and elements. An object takes 16
+   * bytes at least, a field or element mostly 4: what takes less than this is within both.
+   */
+  private static final long MOST_BYTES = 600_000L * 16;
 
   private static final com.sun.management.ThreadMXBean THREADS =
       (com.sun.management.ThreadMXBean) ManagementFactory.getThreadMXBean();

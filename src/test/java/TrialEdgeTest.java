@@ -11,6 +11,7 @@ public final class TrialEdgeTest {
     Sentences s = new Sentences("TrialEdgeTest");
     nothingIsChanged(s);
     asItIsNow(s);
+    trialsInARow(s);
     steps(s);
     promise28(s);
     promise28Told(s);
@@ -72,7 +73,7 @@ public final class TrialEdgeTest {
 
   private static void asItIsNow(Sentences s) {
     s.test("In a net as it is now: with what is KNOWN", check -> {
-      SeamarkNet net = Nets.crossed();
+      SeamarkNet net = Nets.crossed(65, 66, 67);
       check.same("whoTells", net.whoTells(1, 65, 9), 65);
       check.same("hops", net.hops(1, 65), 1);
       check.same("widest", net.widest(1, 65), 96);
@@ -80,6 +81,22 @@ public final class TrialEdgeTest {
       check.same("whoTells without", net.whoTells(1, 65, 9), -1);
       check.same("hops without", net.hops(1, 65), -1);
       check.same("widest without", net.widest(1, 65), -1);
+    });
+    s.test("In a net as it is now: with what is KNOWN, of 0 and 255, too", check -> {
+      check.same("of 0", Nets.crossed(0, 1, 2).whoTells(1, 0, 9), 0);
+      check.same("of 255", Nets.crossed(255, 254, 253).whoTells(1, 255, 9), 255);
+    });
+    s.test("In a net as it is now: with its WIDTHS, FORWARDING and ROUTES", check -> {
+      SeamarkNet net = Nets.line(100, 100, 100);
+      check.same("widest", net.widest(0, 49), 96);
+      net.setWidth(1, 50);
+      check.same("widest by 50", net.widest(0, 49), 46);
+      net.setForwarding(2, false);
+      check.same("not FORWARDED", net.hops(0, 49), -1);
+      net.setForwarding(2, true);
+      check.same("FORWARDED", net.hops(0, 49), 3);
+      net.dropRoute(1);
+      check.same("without a ROUTE", net.whoTells(0, 49, 9), 18);
     });
     s.test("But without FRAMES: those in the row are not delivered", check -> {
       SeamarkNet net = Nets.line(100, 100, 100);
@@ -121,6 +138,64 @@ public final class TrialEdgeTest {
       }
       check.same("the PIECES of a WRAPPED ASK", net.whoTells(0, 130, 9), 130);
       check.same("six WAIT on", net.waiting(0), 6);
+    });
+  }
+
+  private static void trialsInARow(Sentences s) {
+    s.test("With nothing that WAITS in the trial ahead, at any MACHINE", check -> {
+      SeamarkNet net = new SeamarkNet();
+      net.addCable(40);
+      for (int machine = 0; machine < 8; machine++) {
+        net.addMachine(false);
+        net.addPort(machine, 0, 10 * machine, 0);
+      }
+      for (int machine = 0; machine < 8; machine++) {
+        check.same("it WAITS", net.whoTells(machine, 200, 9), -1);
+      }
+      net.addPort(3, 0, 200, 0);
+      for (int machine = 0; machine < 8; machine++) {
+        check.same("it is asked for", net.whoTells(machine, 200, 9), 200);
+      }
+    });
+    s.test("With nothing that is KEPT in the trial ahead", check -> {
+      SeamarkNet net = Nets.tunnelled(12);
+      for (int turn = 0; turn < 3; turn++) {
+        check.same("6 PIECES of 25 come", net.widest(0, 130), -1);
+        check.same("whoTells", net.whoTells(0, 130, 9), 130);
+        check.same("6 PIECES of 25 come", net.widest(0, 130), -1);
+        check.same("hops", net.hops(0, 130), 1);
+      }
+      SeamarkNet chain = Nets.chain(16, 12, 16, 48);
+      check.same("the last PIECE of the ANSWER comes too late", chain.widest(0, 130), -1);
+      for (int cable = 0; cable < 4; cable++) {
+        chain.setWidth(cable, 104);
+      }
+      check.same("it comes in other PIECES", chain.widest(0, 130), 196);
+    });
+    s.test("With no FRAMES of the trial ahead", check -> {
+      SeamarkNet net = Nets.loop(12, 12);
+      for (int turn = 0; turn < 3; turn++) {
+        check.same("round and round", net.whoTells(0, 200, 40), -1);
+        check.same("whoTells", net.whoTells(0, 2, 1), 2);
+        check.same("round and round", net.hops(0, 200), -1);
+        check.same("hops", net.hops(0, 2), 1);
+        check.same("round and round", net.widest(0, 200), -1);
+        check.same("widest", net.widest(0, 2), 8);
+      }
+    });
+    s.test("With nothing that was KNOWN or NOTED in the trial ahead, of another MACHINE", check -> {
+      SeamarkNet net = Nets.line(100, 60, 50);
+      for (int turn = 0; turn < 3; turn++) {
+        check.same("0, LOST", net.whoTells(0, 49, 2), 34);
+        check.same("3, ANSWER", net.whoTells(3, 17, 9), 17);
+        check.same("1, ANSWER", net.whoTells(1, 49, 9), 49);
+        check.same("2, none", net.whoTells(2, 52, 9), -1);
+        check.same("0, none", net.whoTells(0, 20, 9), -1);
+        check.same("1, widest", net.widest(1, 49), 46);
+        check.same("0, widest", net.widest(0, 34), 56);
+        check.same("3, hops", net.hops(3, 34), 1);
+        check.same("0, hops", net.hops(0, 49), 3);
+      }
     });
   }
 
@@ -473,69 +548,83 @@ public final class TrialEdgeTest {
       }
     });
     s.test("Promise 31: it wraps around as a 64-bit integer", check -> {
-      SeamarkNet net = new SeamarkNet();
-      net.addCable(40);
-      for (int machine = 0; machine < 8; machine++) {
-        net.addMachine(true);
-        net.addPort(machine, 0, 10 * machine, 0);
-        check.same("digest()", net.digest(), expected(net, machine + 1));
-      }
       boolean isNegative = false;
-      for (int packet = 0; packet < 9; packet++) {
-        net.send(0, 70, false, 5, 5, false);
+      boolean isPositive = false;
+      for (int machines = 0; machines <= 8; machines++) {
+        SeamarkNet net = asked(machines);
         isNegative = isNegative || net.digest() < 0;
-        check.same("digest()", net.digest(), expected(net, 8));
+        isPositive = isPositive || net.digest() > 0;
+        int[] addresses = new int[machines];
+        for (int machine = 0; machine < machines; machine++) {
+          addresses[machine] = 10 * machine;
+        }
+        digest(check, net, 1, addresses);
       }
-      check.same("below 0 once", isNegative, true);
+      check.same("below 0 and above", isNegative && isPositive, true);
     });
   }
 
-  private static long expected(SeamarkNet net, int machines) {
-    int[] addresses = new int[machines];
+  /** So many MACHINES on a CABLE, each of which asks for the next one. */
+  private static SeamarkNet asked(int machines) {
+    SeamarkNet net = new SeamarkNet();
+    net.addCable(40);
     for (int machine = 0; machine < machines; machine++) {
-      addresses[machine] = 10 * machine;
+      net.addMachine(true);
+      net.addPort(machine, 0, 10 * machine, 0);
+      net.send(machine, 10 * machine + 10, false, 5, 5, false);
     }
-    return digestOf(net, 1, addresses);
+    return net;
+  }
+
+  private static void digest(Check check, SeamarkNet net, int cables, int... addresses) {
+    check.same("digest()", net.digest(), digestOf(net, cables, addresses));
   }
 
   private static void digestParts(Sentences s) {
     s.test("Promise 31: for each FRAME frame() of 0 to 7", check -> {
-      SeamarkNet net = Nets.street(12);
-      for (int step = 0; step < 20; step++) {
-        if (step < 3) {
-          net.send(step, 33 + (step + 1) % 3, true, 9 * step, 9, false);
+      for (int steps = 0; steps < 20; steps++) {
+        SeamarkNet net = Nets.street(12);
+        for (int step = 0; step <= steps; step++) {
+          if (step < 3) {
+            net.send(step, 33 + (step + 1) % 3, true, 9 * step, 9, false);
+          }
+          net.step(1);
         }
-        check.same("digest()", net.digest(), digestOf(net, 1, 33, 34, 35));
-        net.step(1);
+        digest(check, net, 1, 33, 34, 35);
       }
     });
     s.test("Promise 31: note() of the latest 3, or all", check -> {
-      SeamarkNet net = Nets.street(12);
       for (int count = 0; count < 13; count++) {
-        check.same("digest()", net.digest(), digestOf(net, 1, 33, 34, 35));
-        net.send(0, 33, false, count, count + 1, false);
+        SeamarkNet net = Nets.street(12);
+        for (int size = 0; size < count; size++) {
+          net.send(0, 33, false, size, size + 1, false);
+        }
+        digest(check, net, 1, 33, 34, 35);
       }
     });
     s.test("Promise 31: knows() of the ADDRESS of each PORT, MACHINE by MACHINE", check -> {
-      SeamarkNet net = Nets.line(40, 24, 100);
-      net.addPort(0, 2, 60, 8);
-      net.send(0, 49, true, 90, 9, false);
-      for (int step = 0; step < 9; step++) {
-        check.same("digest()", net.digest(), digestOf(net, 3, 17, 60, 18, 35, 34, 51, 49));
-        net.step(4);
+      for (int steps = 1; steps < 40; steps += 3) {
+        SeamarkNet net = Nets.line(40, 24, 100);
+        net.addPort(0, 2, 60, 8);
+        net.send(0, 49, true, 90, 9, false);
+        net.step(steps);
+        digest(check, net, 3, 17, 60, 18, 35, 34, 51, 49);
       }
     });
-    s.test("Promise 31: waiting(), heaps(), gone() of a busy net", check -> {
-      check.same("busy", Nets.busy().digest(),
-          digestOf(Nets.busy(), 4, 17, 18, 35, 34, 51, 49, 130));
-      check.same("full", Nets.full().digest(), digestOf(Nets.full(), 8,
-          17, 211, 212, 213, 18, 35, 34, 51, 49, 130, 204, 205, 206, 207));
-      SeamarkNet net = Nets.street(12);
-      for (int heap = 0; heap < 5; heap++) {
-        net.forget(0);
-        net.send(0, 34, false, 55, 9, false);
-        net.step(60);
-        check.same("digest()", net.digest(), digestOf(net, 1, 33, 34, 35));
+    s.test("Promise 31: of a busy net, and of a full one", check -> {
+      digest(check, Nets.busy(), 4, 17, 18, 35, 34, 51, 49, 130);
+      digest(check, Nets.full(), 8, 17, 211, 212, 213, 18, 35, 34, 51, 49, 130, 204, 205, 206, 207);
+    });
+    s.test("Promise 31: waiting(), heaps() and gone()", check -> {
+      for (int heaps = 0; heaps < 5; heaps++) {
+        SeamarkNet net = Nets.street(12);
+        for (int heap = 0; heap < heaps; heap++) {
+          net.forget(0);
+          net.send(0, 34, false, 55, 9, false);
+          net.step(60);
+        }
+        net.send(0, 40, false, 9, 9, false);
+        digest(check, net, 1, 33, 34, 35);
       }
     });
   }
