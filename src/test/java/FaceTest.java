@@ -8,16 +8,40 @@ import java.util.TreeSet;
 
 /** The class shows the document's face, and nothing else. */
 public final class FaceTest {
+  private static final String BOUNDS = " IndexOutOfBoundsException";
+  private static final String ARGUMENT = " IllegalArgumentException";
+  private static final String STATE = " IllegalStateException";
   private static final String[] FACE = {
-    "int addCable(int)", "int setWidth(int,int)", "int addMachine(boolean)",
-    "int addPort(int,int,int,int)", "int addTunnel(int,int)", "int addRoute(int,int,int,int)",
-    "int dropRoute(int)", "boolean setForwarding(int,boolean)",
-    "int send(int,int,boolean,int,int,boolean)", "int step(int)", "int forget(int)",
-    "int giveUp(int)", "int machines()", "int packets()", "int steps()", "int gone()",
-    "int frames()", "int frame(int,int)", "int knows(int,int)", "int waiting(int)",
-    "int heaps(int)", "int noted(int)", "int note(int,int,int)", "int way(int,int,int)",
-    "int carried(int)", "double use()", "int whoTells(int,int,int)", "int hops(int,int)",
-    "int widest(int,int)", "long digest()"
+    "int addCable(int)" + ARGUMENT + STATE,
+    "int setWidth(int,int)" + BOUNDS + ARGUMENT,
+    "int addMachine(boolean)" + STATE,
+    "int addPort(int,int,int,int)" + BOUNDS + ARGUMENT + STATE,
+    "int addTunnel(int,int)" + BOUNDS + ARGUMENT + STATE,
+    "int addRoute(int,int,int,int)" + BOUNDS + ARGUMENT + STATE,
+    "int dropRoute(int)" + BOUNDS + STATE,
+    "boolean setForwarding(int,boolean)" + BOUNDS,
+    "int send(int,int,boolean,int,int,boolean)" + BOUNDS + ARGUMENT,
+    "int step(int)" + ARGUMENT,
+    "int forget(int)" + BOUNDS,
+    "int giveUp(int)" + BOUNDS,
+    "int machines()",
+    "int packets()",
+    "int steps()",
+    "int gone()",
+    "int frames()",
+    "int frame(int,int)" + BOUNDS + ARGUMENT,
+    "int knows(int,int)" + BOUNDS + ARGUMENT,
+    "int waiting(int)" + BOUNDS,
+    "int heaps(int)" + BOUNDS,
+    "int noted(int)" + BOUNDS,
+    "int note(int,int,int)" + BOUNDS + ARGUMENT,
+    "int way(int,int,int)" + BOUNDS + ARGUMENT,
+    "int carried(int)" + BOUNDS,
+    "double use()",
+    "int whoTells(int,int,int)" + BOUNDS + ARGUMENT,
+    "int hops(int,int)" + BOUNDS + ARGUMENT,
+    "int widest(int,int)" + BOUNDS + ARGUMENT,
+    "long digest()"
   };
 
   public static void main(String[] args) {
@@ -75,6 +99,10 @@ public final class FaceTest {
       }
       text.append(type);
     }
-    return text.append(')').toString();
+    text.append(')');
+    for (Class<?> thrown : method.getExceptionTypes()) {
+      text.append(' ').append(thrown.getSimpleName());
+    }
+    return text.toString();
   }
 }
